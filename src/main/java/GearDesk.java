@@ -357,6 +357,8 @@ public final class GearDesk {
         private static final int MOST_STAGES = 4;
         /** 60 numbers of teeth with three stages have the most choices. */
         private static final int MOST_CHOICES = 37820;
+        /** No choice has the product 0. */
+        private static final long NO_CHOICE = 0;
         private static final int WHEEL_BITS = 7;
         private static final int WHEEL_MASK = (1 << WHEEL_BITS) - 1;
         private static final int LIST_BITS = WHEEL_BITS * MOST_STAGES;
@@ -447,8 +449,7 @@ public final class GearDesk {
         private void prepare() {
             listChoices();
             sortByProduct();
-            bestDrivers = 0;
-            bestDriven = 0;
+            bestDriven = NO_CHOICE;
             below = NONE;
             groupEnd = 0;
             takeGroup();
@@ -542,7 +543,7 @@ public final class GearDesk {
 
         private void tryTrain(long drivers, long driven) {
             long gap = Math.abs(product(drivers) * den - product(driven) * num);
-            if (bestDriven == 0 || isBetter(drivers, driven, gap)) {
+            if (bestDriven == NO_CHOICE || isBetter(drivers, driven, gap)) {
                 bestDrivers = drivers;
                 bestDriven = driven;
                 bestGap = gap;
@@ -742,7 +743,11 @@ public final class GearDesk {
             Arrays.fill(rowOf, NONE);
             for (int r = 0; r < works.relations; r++) {
                 setTerms(works, r);
-                if (!takeIn()) {
+                int own = makeNewRow();
+                if (own != NONE) {
+                    giveColumn(own);
+                } else if (sizes[at(rows, crank)] != 0) {
+                    // Nothing but the crank is left in it, whose speed would have to be 0.
                     return r;
                 }
             }
@@ -798,26 +803,21 @@ public final class GearDesk {
             terms++;
         }
 
-        /** Whether the equation of the terms fits those before it. */
-        private boolean takeIn() {
+        /** The terms less what the rows know of them: the first column that may be the new row's own, or NONE. */
+        private int makeNewRow() {
             int own = NONE;
             for (int c = 0; c < columns; c++) {
                 if (rowOf[c] == NONE) {
-                    fillNewRow(c);
+                    fillNewCell(c);
                     if (own == NONE && c != crank && sizes[at(rows, c)] != 0) {
                         own = c;
                     }
                 }
             }
-            if (own == NONE) {
-                // Nothing but the crank is left in it, and the crank's speed is not 0.
-                return sizes[at(rows, crank)] == 0;
-            }
-            giveColumn(own);
-            return true;
+            return own;
         }
 
-        private void fillNewRow(int column) {
+        private void fillNewCell(int column) {
             sum.setLong(0);
             for (int t = 0; t < terms; t++) {
                 int row = rowOf[termGears[t]];

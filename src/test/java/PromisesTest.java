@@ -215,6 +215,26 @@ public final class PromisesTest {
         x.want(2772, 1235, 4, 10, 23);
         x.search(10000);
         dueTrain(x, 11, 10, 14, 10, 18, 13, 20, 19);
+        leastLists(x);
+    }
+
+    /** As far off from either side and as many teeth, where the least list has the greater products. */
+    private static void leastLists(GearDesk x) {
+        int[][] tasks = {
+            {263273, 636480, 3, 8, 17}, {19601, 59290, 3, 8, 17}, {87361, 87780, 3, 10, 19}, {465993, 1838720, 3, 9, 18},
+            {2201, 1296, 4, 12, 16}, {511879, 947700, 4, 8, 13}, {87779, 50400, 4, 8, 14}, {316944, 538265, 4, 12, 16},
+        };
+        int[][] trains = {
+            {8, 12, 11, 13, 11, 15}, {8, 10, 9, 14, 9, 14}, {10, 10, 11, 14, 19, 15}, {9, 12, 9, 15, 9, 16},
+            {12, 12, 14, 12, 14, 12, 15, 12}, {8, 8, 8, 10, 9, 10, 9, 12}, {8, 8, 8, 9, 14, 10, 14, 10},
+            {12, 12, 12, 14, 12, 14, 12, 15},
+        };
+        for (int i = 0; i < tasks.length; i++) {
+            int[] t = tasks[i];
+            x.want(t[0], t[1], t[2], t[3], t[4]);
+            x.search(1000);
+            dueTrain(x, trains[i]);
+        }
     }
 
     private static void dueTrain(GearDesk x, int... wheels) {

@@ -7,7 +7,7 @@ import java.util.Random;
  * and a call that does not throw makes nothing.
  */
 public final class RoomTest {
-    /** Far below the room: an element takes at most 8 bytes, so this is less than a quarter of it. */
+    /** Even of one byte each these would be two million elements, less than a third of the room. */
     private static final long MOST_FOR_A_DESK = 2_000_000;
     /** The machine's own bookkeeping now and then makes something too. */
     private static final long MOST_FOR_A_RUN = 100_000;
