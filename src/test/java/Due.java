@@ -1,5 +1,12 @@
 /** What a test counts: answers that are not the ones that are due. */
 final class Due {
+    static final Class<IllegalArgumentException> ARGUMENT = IllegalArgumentException.class;
+    static final Class<IllegalStateException> STATE = IllegalStateException.class;
+    static final Class<IndexOutOfBoundsException> INDEX = IndexOutOfBoundsException.class;
+    static final Class<UnsupportedOperationException> TOO_LARGE = UnsupportedOperationException.class;
+
+    private static final int LONGEST_TEST = 300_000;
+
     /** A call of the desk, a boolean answered as 1 or 0. */
     interface Call {
         long run();
@@ -8,7 +15,40 @@ final class Due {
     private static int looked = 0;
     private static int wrong = 0;
 
+    static {
+        Thread watch = new Thread(Due::endLate);
+        watch.setDaemon(true);
+        watch.start();
+    }
+
     private Due() {
+    }
+
+    /** A call that does not end is a fault to be told, not a test that hangs. */
+    private static void endLate() {
+        try {
+            Thread.sleep(LONGEST_TEST);
+        } catch (InterruptedException e) {
+            return;
+        }
+        System.out.println("a call does not end");
+        Runtime.getRuntime().halt(1);
+    }
+
+    /** A sentence of the document with the test that fails if it does not hold. */
+    static void sentence(String where, String words, Runnable test) {
+        int lookedBefore = looked;
+        int wrongBefore = wrong;
+        try {
+            test.run();
+        } catch (RuntimeException e) {
+            wrong++;
+            System.out.println("a call threw " + e + " at " + e.getStackTrace()[0]);
+        }
+        if (wrong > wrongBefore || looked == lookedBefore) {
+            wrong = Math.max(wrong, wrongBefore + 1);
+            System.out.println(where + " does not hold: " + words);
+        }
     }
 
     static void same(String what, long got, long due) {
@@ -20,7 +60,7 @@ final class Due {
     }
 
     static void fails(String what, Class<? extends RuntimeException> due, Call call) {
-        same(what + " throws " + due.getSimpleName(), due.getSimpleName().equals(outcome(call)) ? 1 : 0, 1);
+        sameOutcome(what, outcome(call), due.getSimpleName());
     }
 
     static void sameOutcome(String what, String got, String due) {

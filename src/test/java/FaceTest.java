@@ -8,6 +8,7 @@ import java.nio.file.Path;
 import java.util.Map;
 import java.util.TreeMap;
 import java.util.TreeSet;
+import java.util.regex.Pattern;
 
 /** The public face as the document tells it, and the rules of LANGUAGE.md that a machine can look at. */
 public final class FaceTest {
@@ -38,11 +39,17 @@ public final class FaceTest {
     private static final Map<String, String> NAMES = Map.of("IllegalArgumentException", "Argument",
             "IllegalStateException", "State", "IndexOutOfBoundsException", "Index",
             "UnsupportedOperationException", "Unsupported");
+    /** Rules 2, 4, 5, 6 and 13: what the source may not have anywhere. */
     private static final String[] FORBIDDEN = {
-        "\\bsynchronized\\b", "\\bassert\\b", "\\bfinally\\b", "->", "::", "\\bMath\\.\\w+Exact\\b", "\\bsuper\\b",
-        "\\bprotected\\b", "\\bstatic \\{", "\\bSystem\\.(?!arraycopy)", "\\bArrays\\.(?!fill|copyOf)", "\\bpackage\\b",
-        "\\bcatch\\b", "\\bRandom\\b", "\\bThread\\b", "\\bequals\\b", "\\bhashCode\\b", "\\btoString\\b",
+        "::", "(?m)^(?!\\s*(case|default)\\b).*->", "\\bsynchronized\\b", "\\bassert\\b", "\\bfinally\\b", "\\w+Exact\\b",
+        "\\bstatic \\{", "\\bpackage\\b", "\\bSystem\\.(?!arraycopy\\b)", "\\bArrays\\.(?!fill\\b|copyOf\\b|copyOfRange\\b)",
+        "\\bRandom\\b", "\\brandom\\b", "\\bThread\\b", "\\bhashCode\\b", "\\bprintStackTrace\\b", "\\bgetMessage\\b",
+        "(?m)^import (?!java\\.util\\.(Arrays|ArrayList|List|Iterator|NoSuchElementException);)", "\\bjava\\.(?!util\\.)",
+        "\\bthrow (?!new \\w+\\((\"[^\"]*\")?\\);)",
+        "\\bthrow new (?!(IllegalState|IllegalArgument|IndexOutOfBounds|Arithmetic|UnsupportedOperation|NoSuchElement|Runtime)"
+                + "Exception\\()",
     };
+    private static final int LONGEST_METHOD = 62;
 
     private FaceTest() {
     }
@@ -135,14 +142,32 @@ public final class FaceTest {
         String text = Files.readString(file);
         String code = text.replaceAll("(?s)/\\*.*?\\*/", "").replaceAll("//.*", "");
         for (String word : FORBIDDEN) {
-            Due.same("the source has " + word, Due.bit(java.util.regex.Pattern.compile(word).matcher(code).find()), 0);
+            Due.same("the source has " + word, Due.bit(Pattern.compile(word).matcher(code).find()), 0);
         }
-        Due.same("imports", code.split("(?m)^import ", -1).length - 1, 1);
-        Due.same("the one import", Due.bit(code.contains("import java.util.Arrays;")), 1);
         for (char c : text.toCharArray()) {
-            if (c > 126 || c < 32 && c != '\n') {
-                Due.same("a character", c, 'a');
+            if (c > 255) {
+                Due.same("a character beyond 255", c, 0);
             }
+        }
+        shortMethods(code.split("\n"));
+    }
+
+    /** Rules 11 and 6: no method longer than some sixty lines, no throw in a constructor. */
+    private static void shortMethods(String[] lines) {
+        Pattern head = Pattern.compile("( {4}| {8})\\S.*\\) (throws [\\w, ]+)?\\{");
+        Pattern constructor = Pattern.compile(" +(public |private )?[A-Z]\\w*\\(.*");
+        for (int i = 0; i < lines.length; i++) {
+            if (!head.matcher(lines[i]).matches()) {
+                continue;
+            }
+            String end = lines[i].replaceAll("\\S.*", "") + "}";
+            int length = 1;
+            while (i + length < lines.length && !lines[i + length].equals(end)) {
+                boolean isThrow = lines[i + length].contains("throw new");
+                Due.same("a throw in a constructor", Due.bit(isThrow && constructor.matcher(lines[i]).matches()), 0);
+                length++;
+            }
+            Due.same(lines[i].trim() + " is short", Due.bit(length < LONGEST_METHOD), 1);
         }
     }
 }

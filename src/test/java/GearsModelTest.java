@@ -3,10 +3,14 @@ import java.util.Random;
 
 /** Runs of calls on the desk and on the model, with every answer compared; the seeds are fixed. */
 public final class GearsModelTest {
+    /** What later calls answer is free. */
+    private static final int MOST_CALLS = 512;
+
     private final Random random;
     private final GearDesk desk = new GearDesk();
     private final DeskModel model = new DeskModel();
     private final String name;
+    private int calls;
 
     private GearsModelTest(String name, long seed) {
         this.name = name + " " + seed;
@@ -14,19 +18,23 @@ public final class GearsModelTest {
     }
 
     public static void main(String[] args) {
-        for (int seed = 0; seed < 400 && Due.wrongSoFar() < 20; seed++) {
+        for (int seed = 0; seed < 1000 && Due.wrongSoFar() < 20; seed++) {
             new GearsModelTest("mixed run", seed).mixedRun();
         }
-        for (int seed = 0; seed < 60 && Due.wrongSoFar() < 20; seed++) {
+        for (int seed = 0; seed < 240 && Due.wrongSoFar() < 20; seed++) {
             new GearsModelTest("long chain", seed).longChain(46 + seed % 15, seed % 2 == 0);
         }
-        for (int seed = 0; seed < 24 && Due.wrongSoFar() < 20; seed++) {
-            new GearsModelTest("planets", seed).manyPlanets(12 + 2 * seed);
+        for (int seed = 0; seed < 96 && Due.wrongSoFar() < 20; seed++) {
+            new GearsModelTest("planets", seed).manyPlanets(12 + seed / 2);
         }
         Due.end("GearsModelTest");
     }
 
     private void both(String call, Due.Call onDesk, Due.Call onModel) {
+        if (calls == MOST_CALLS) {
+            return;
+        }
+        calls++;
         Due.sameOutcome(name + ": " + call, Due.outcome(onDesk), Due.outcome(onModel));
     }
 
@@ -36,7 +44,7 @@ public final class GearsModelTest {
 
     /** Mostly a gear, now and then none. */
     private int someGear() {
-        return random.nextInt(25) == 0 ? random.nextInt(80) - 10 : random.nextInt(Math.max(1, desk.count(0)));
+        return random.nextInt(25) == 0 ? random.nextInt(80) - 10 : random.nextInt(Math.max(1, model.teeth.size()));
     }
 
     private void gear(int teeth) {
@@ -79,24 +87,23 @@ public final class GearsModelTest {
         both("back()", () -> Due.bit(desk.back()), () -> Due.bit(model.back()));
     }
 
-    private void wholeResult() {
-        for (int part = 0; part < 2; part++) {
-            for (int i = 0; i < 8; i++) {
-                int p = part;
-                int w = i;
-                both("result(" + p + ", " + w + ")", () -> desk.result(p, w), () -> model.result(p, w));
-            }
+    /** The lowest word, the highest and any: all sixteen each time would be too many calls. */
+    private int[] someWords() {
+        return new int[] {0, random.nextInt(8), 7};
+    }
+
+    private void result() {
+        for (int w : someWords()) {
+            both("result(0, " + w + ")", () -> desk.result(0, w), () -> model.result(0, w));
+            both("result(1, " + w + ")", () -> desk.result(1, w), () -> model.result(1, w));
         }
     }
 
-    private void wholeSpeed(int g) {
+    private void speed(int g) {
         both("speed(" + g + ", 0, 0)", () -> desk.speed(g, 0, 0), () -> model.speed(g, 0, 0));
-        for (int part = 1; part <= 2; part++) {
-            for (int i = 0; i < 8; i++) {
-                int p = part;
-                int w = i;
-                both("speed(" + g + ", " + p + ", " + w + ")", () -> desk.speed(g, p, w), () -> model.speed(g, p, w));
-            }
+        for (int w : someWords()) {
+            both("speed(" + g + ", 1, " + w + ")", () -> desk.speed(g, 1, w), () -> model.speed(g, 1, w));
+            both("speed(" + g + ", 2, " + w + ")", () -> desk.speed(g, 2, w), () -> model.speed(g, 2, w));
         }
     }
 
@@ -113,12 +120,12 @@ public final class GearsModelTest {
         for (int i = 0; i < gears; i++) {
             gear(4 + random.nextInt(teeth - 3));
         }
-        for (int call = 0; call < 300; call++) {
+        for (int call = 0; call < 150; call++) {
             mixedCall(teeth);
         }
         counts();
-        for (int g = 0; g < desk.count(0); g++) {
-            wholeSpeed(g);
+        for (int g = 0; g < model.teeth.size(); g++) {
+            speed(g);
         }
     }
 
@@ -133,11 +140,11 @@ public final class GearsModelTest {
             case 1, 2, 3 -> relate(random.nextInt(3), a, b, c);
             case 4, 5 -> relate(3, a, b, c);
             case 6, 7 -> {
-                int r = random.nextInt(10) == 0 ? random.nextInt(150) - 10 : random.nextInt(desk.count(1) + 1);
+                int r = random.nextInt(10) == 0 ? random.nextInt(150) - 10 : random.nextInt(model.relations.size() + 1);
                 both("remove(" + r + ")", () -> desk.remove(r), () -> model.remove(r));
             }
             case 8 -> {
-                int r = random.nextInt(desk.count(1) + 2) - 1;
+                int r = random.nextInt(model.relations.size() + 2) - 1;
                 int what = random.nextInt(6) - 1;
                 both("relation(" + r + ", " + what + ")", () -> desk.relation(r, what), () -> model.relation(r, what));
             }
@@ -153,15 +160,15 @@ public final class GearsModelTest {
             case 15, 16 -> {
                 position(k, random.nextInt(8) == 0 ? random.nextInt() : random.nextInt(400) - 200,
                         random.nextInt(8) == 0 ? random.nextInt() : random.nextInt(30));
-                wholeResult();
+                result();
             }
             case 17, 18 -> {
                 meet(k, l);
-                wholeResult();
+                result();
             }
             case 19, 20 -> {
                 back();
-                wholeResult();
+                result();
             }
             default -> {
                 counts();
@@ -181,14 +188,14 @@ public final class GearsModelTest {
         for (int g = 0; g + 1 < gears; g++) {
             relate(g % 2 == 0 ? 0 : 2, g, g + 1, 0);
         }
-        for (int turn = 0; turn < 6; turn++) {
-            crank(turn % 2 == 0 ? random.nextInt(3) : random.nextInt(gears));
+        for (int turn = 0; turn < 3; turn++) {
+            crank(random.nextBoolean() ? random.nextInt(3) : random.nextInt(gears));
             solve();
-            for (int g = 0; g < gears; g++) {
-                wholeSpeed(g);
+            for (int i = 0; i < 10; i++) {
+                speed(random.nextInt(gears));
             }
             hands(gears);
-            int r = random.nextInt(desk.count(1));
+            int r = random.nextInt(model.relations.size());
             both("remove(" + r + ")", () -> desk.remove(r), () -> model.remove(r));
             relate(random.nextInt(4), random.nextInt(gears), random.nextInt(gears), random.nextInt(gears));
         }
@@ -197,18 +204,19 @@ public final class GearsModelTest {
     private void hands(int gears) {
         for (int k = 0; k < 12; k++) {
             int g = random.nextInt(gears);
-            dial(k, model.speeds[g] == null ? desk.relation(0, 1) : g, 1 + random.nextInt(100000));
+            dial(k, model.speeds[g] == null ? model.relation(0, 1) : g, 1 + random.nextInt(100000));
         }
-        for (int k = 0; k < 12; k++) {
+        for (int i = 0; i < 4; i++) {
+            int k = random.nextInt(12);
             position(k, random.nextInt(), 1 + random.nextInt(Integer.MAX_VALUE - 1));
-            wholeResult();
+            result();
             position(k, Integer.MIN_VALUE, Integer.MAX_VALUE);
-            wholeResult();
+            result();
             meet(k, random.nextInt(12));
-            wholeResult();
+            result();
         }
         back();
-        wholeResult();
+        result();
     }
 
     /** The longest numbers inside: each gear in a planetary set with two before it. */
@@ -222,7 +230,7 @@ public final class GearsModelTest {
             planetInAnyOrder(g, g - 1, random.nextInt(g - 1));
             if (g % 5 == 0) {
                 solve();
-                wholeSpeed(random.nextInt(g));
+                speed(random.nextInt(g));
             }
         }
         solve();
@@ -232,7 +240,7 @@ public final class GearsModelTest {
         }
         counts();
         for (int g = 0; g < gears; g++) {
-            wholeSpeed(g);
+            speed(g);
         }
     }
 

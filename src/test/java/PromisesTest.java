@@ -2,10 +2,6 @@ import java.lang.reflect.Method;
 
 /** For each promise of the document: ordinary inputs, the edges that it names, and wrong inputs. */
 public final class PromisesTest {
-    private static final Class<IllegalArgumentException> ARGUMENT = IllegalArgumentException.class;
-    private static final Class<IllegalStateException> STATE = IllegalStateException.class;
-    private static final Class<IndexOutOfBoundsException> INDEX = IndexOutOfBoundsException.class;
-    private static final Class<UnsupportedOperationException> TOO_LARGE = UnsupportedOperationException.class;
 
     private PromisesTest() {
     }
@@ -22,14 +18,6 @@ public final class PromisesTest {
         Due.end("PromisesTest");
     }
 
-    private static GearDesk withGears(int... teeth) {
-        GearDesk x = new GearDesk();
-        for (int t : teeth) {
-            x.gear(t);
-        }
-        return x;
-    }
-
     /** Gears 0 .. 59, relations 0 .. 119, all arbors. */
     private static GearDesk full() {
         GearDesk x = new GearDesk();
@@ -42,68 +30,20 @@ public final class PromisesTest {
         return x;
     }
 
-    /** From a gear on: drivers of some teeth turn driven ones, each on the arbor of the next driver. The last driven. */
-    private static int chain(GearDesk x, int from, int driver, int driven, int pairs) {
-        int last = from;
-        for (int i = 0; i < pairs; i++) {
-            if (i > 0) {
-                int next = x.gear(driver);
-                x.arbor(last, next);
-                last = next;
-            }
-            int turned = x.gear(driven);
-            x.mesh(last, turned);
-            last = turned;
-        }
-        return last;
-    }
-
-    private static void dueSpeed(String what, GearDesk x, int gear, int top, int bottom) {
-        Due.same(what + ": sign", x.speed(gear, 0, 0), Integer.signum(top));
-        Due.same(what + ": top", x.speed(gear, 1, 0), Math.abs(top));
-        Due.same(what + ": bottom", x.speed(gear, 2, 0), bottom);
-        for (int i = 1; i < 8; i++) {
-            Due.same(what + ": top's word " + i, x.speed(gear, 1, i), 0);
-            Due.same(what + ": bottom's word " + i, x.speed(gear, 2, i), 0);
-        }
-    }
-
-    private static void dueResult(String what, GearDesk x, int top, int bottom) {
-        Due.same(what + ": result's top", x.result(0, 0), top);
-        Due.same(what + ": result's bottom", x.result(1, 0), bottom);
-        for (int i = 1; i < 8; i++) {
-            Due.same(what + ": result's top, word " + i, x.result(0, i), 0);
-            Due.same(what + ": result's bottom, word " + i, x.result(1, i), 0);
-        }
-    }
-
-    private static void dueCounts(String what, GearDesk x, int gears, int relations, int dials, int speeds) {
-        Due.same(what + ": gears", x.count(0), gears);
-        Due.same(what + ": relations", x.count(1), relations);
-        Due.same(what + ": dials", x.count(2), dials);
-        Due.same(what + ": speeds", x.count(3), speeds);
-    }
-
-    private static void dueRelation(String what, GearDesk x, int relation, int... parts) {
-        for (int i = 0; i < 4; i++) {
-            Due.same(what + ": part " + i, x.relation(relation, i), parts[i]);
-        }
-    }
-
     static void promise1() {
         GearDesk x = new GearDesk();
-        dueCounts("new", x, 0, 0, 0, 0);
+        Told.counts("new", x, 0, 0, 0, 0);
         Due.same("new: choices", x.count(4), 0);
-        Due.fails("new: search(1)", STATE, () -> Due.bit(x.search(1)));
-        Due.fails("new: tooth(0, 0)", STATE, () -> x.tooth(0, 0));
-        Due.fails("new: error(0)", STATE, () -> x.error(0));
-        Due.fails("new: solve()", STATE, x::solve);
-        Due.fails("new: crank(0)", INDEX, () -> x.crank(0));
-        Due.fails("new: relation(0, 0)", INDEX, () -> x.relation(0, 0));
-        Due.fails("new: position(0, 1, 1)", INDEX, () -> x.position(0, 1, 1));
-        Due.fails("new: meet(0, 0)", INDEX, () -> Due.bit(x.meet(0, 0)));
+        Due.fails("new: search(1)", Due.STATE, () -> Due.bit(x.search(1)));
+        Due.fails("new: tooth(0, 0)", Due.STATE, () -> x.tooth(0, 0));
+        Due.fails("new: error(0)", Due.STATE, () -> x.error(0));
+        Due.fails("new: solve()", Due.STATE, x::solve);
+        Due.fails("new: crank(0)", Due.INDEX, () -> x.crank(0));
+        Due.fails("new: relation(0, 0)", Due.INDEX, () -> x.relation(0, 0));
+        Due.fails("new: position(0, 1, 1)", Due.INDEX, () -> x.position(0, 1, 1));
+        Due.fails("new: meet(0, 0)", Due.INDEX, () -> Due.bit(x.meet(0, 0)));
         Due.same("new: back()", Due.bit(x.back()), 0);
-        dueResult("new", x, 0, 1);
+        Told.result("new", x, 0, 1);
         GearDesk y = new GearDesk();
         x.gear(10);
         Due.same("another desk's gears", y.count(0), 0);
@@ -119,9 +59,9 @@ public final class PromisesTest {
             {1, 1, 1, 8, Integer.MIN_VALUE}, {1, 1, 1, Integer.MAX_VALUE, Integer.MAX_VALUE},
         };
         for (int[] w : wrong) {
-            Due.fails("want", ARGUMENT, () -> x.want(w[0], w[1], w[2], w[3], w[4]));
+            Due.fails("want", Due.ARGUMENT, () -> x.want(w[0], w[1], w[2], w[3], w[4]));
         }
-        Due.fails("no task by a wrong want: search(1)", STATE, () -> Due.bit(x.search(1)));
+        Due.fails("no task by a wrong want: search(1)", Due.STATE, () -> Due.bit(x.search(1)));
         int[][] right = {
             {1, 8, 8, 1}, {4, 8, 8, 1}, {1, 8, 120, 113}, {2, 8, 120, 6441}, {3, 8, 67, 37820}, {3, 61, 120, 37820},
             {4, 8, 27, 8855}, {4, 101, 120, 8855}, {2, 10, 11, 3}, {3, 10, 11, 4}, {4, 10, 11, 5}, {2, 120, 120, 1},
@@ -132,21 +72,21 @@ public final class PromisesTest {
         }
         x.want(2, 1, 1, 8, 16);
         x.search(9);
-        Due.fails("want", ARGUMENT, () -> x.want(3, 1, 1, 8, 121));
+        Due.fails("want", Due.ARGUMENT, () -> x.want(3, 1, 1, 8, 121));
         Due.same("a wrong want leaves the best train", x.tooth(0, 0), 16);
         Due.same("a wrong want leaves its error", x.error(0), 0);
         Due.same("a new task", x.want(1, 2, 1, 8, 16), 9);
-        Due.fails("a new task has no best train yet", STATE, () -> x.tooth(0, 0));
+        Due.fails("a new task has no best train yet", Due.STATE, () -> x.tooth(0, 0));
     }
 
     static void promise3() {
         GearDesk x = new GearDesk();
-        Due.fails("search(0) without a task", ARGUMENT, () -> Due.bit(x.search(0)));
-        Due.fails("search(1000001) without a task", ARGUMENT, () -> Due.bit(x.search(1000001)));
-        Due.fails("search(1000000) without a task", STATE, () -> Due.bit(x.search(1000000)));
+        Due.fails("search(0) without a task", Due.ARGUMENT, () -> Due.bit(x.search(0)));
+        Due.fails("search(1000001) without a task", Due.ARGUMENT, () -> Due.bit(x.search(1000001)));
+        Due.fails("search(1000000) without a task", Due.STATE, () -> Due.bit(x.search(1000000)));
         x.want(5, 4, 2, 8, 11);
         for (int fuel : new int[] {0, -1, Integer.MIN_VALUE, 1000001, Integer.MAX_VALUE}) {
-            Due.fails("search(" + fuel + ")", ARGUMENT, () -> Due.bit(x.search(fuel)));
+            Due.fails("search(" + fuel + ")", Due.ARGUMENT, () -> Due.bit(x.search(fuel)));
         }
         Due.same("a wrong search goes through nothing", x.count(4), 10);
         Due.same("search(1) of 10", Due.bit(x.search(1)), 0);
@@ -168,53 +108,53 @@ public final class PromisesTest {
 
     static void promise4() {
         GearDesk x = new GearDesk();
-        Due.fails("tooth(9, 9) without a task", STATE, () -> x.tooth(9, 9));
+        Due.fails("tooth(9, 9) without a task", Due.STATE, () -> x.tooth(9, 9));
         x.want(235, 19, 2, 8, 120);
-        Due.fails("tooth(9, 9) before the search", STATE, () -> x.tooth(9, 9));
+        Due.fails("tooth(9, 9) before the search", Due.STATE, () -> x.tooth(9, 9));
         x.search(6440);
-        Due.fails("tooth(0, 0) with a choice left", STATE, () -> x.tooth(0, 0));
+        Due.fails("tooth(0, 0) with a choice left", Due.STATE, () -> x.tooth(0, 0));
         x.search(1);
-        dueTrain(x, 40, 8, 47, 19);
+        Told.train(x, 40, 8, 47, 19);
         for (int[] w : new int[][] {{-1, 0}, {2, 0}, {0, -1}, {0, 2}, {Integer.MIN_VALUE, 1}, {1, Integer.MAX_VALUE}}) {
-            Due.fails("tooth(" + w[0] + ", " + w[1] + ")", INDEX, () -> x.tooth(w[0], w[1]));
+            Due.fails("tooth(" + w[0] + ", " + w[1] + ")", Due.INDEX, () -> x.tooth(w[0], w[1]));
         }
         // Many trains without an error: the fewest teeth in all.
         x.want(1, 1, 3, 8, 67);
         x.search(1000000);
-        dueTrain(x, 8, 8, 8, 8, 8, 8);
+        Told.train(x, 8, 8, 8, 8, 8, 8);
         x.want(3, 2, 1, 10, 14);
         x.search(5);
-        dueTrain(x, 14, 10);
+        Told.train(x, 14, 10);
         x.want(3, 2, 1, 10, 30);
         x.search(21);
-        dueTrain(x, 15, 10);
+        Told.train(x, 15, 10);
         // Half way between 8 by 9 and 8 by 8: the fewer teeth, from above or from below.
         x.want(17, 18, 1, 8, 9);
         x.search(2);
-        dueTrain(x, 8, 8);
+        Told.train(x, 8, 8);
         x.want(17, 16, 1, 8, 9);
         x.search(2);
-        dueTrain(x, 8, 8);
+        Told.train(x, 8, 8);
         x.want(4, 9, 2, 8, 12);
         x.search(1000);
-        dueTrain(x, 8, 12, 8, 12);
+        Told.train(x, 8, 12, 8, 12);
         // As far off and as many teeth: 36, 33, 37, 33 and, from the other side, this least list.
         x.want(11, 9, 2, 33, 40);
         x.search(1000);
-        dueTrain(x, 35, 33, 38, 33);
+        Told.train(x, 35, 33, 38, 33);
         // As many teeth without an error: the drivers' product by other drivers, by other driven wheels, by both.
         x.want(504, 319, 3, 10, 33);
         x.search(10000);
-        dueTrain(x, 14, 10, 18, 11, 20, 29);
+        Told.train(x, 14, 10, 18, 11, 20, 29);
         x.want(12, 77, 3, 8, 31);
         x.search(10000);
-        dueTrain(x, 8, 11, 8, 16, 9, 21);
+        Told.train(x, 8, 11, 8, 16, 9, 21);
         x.want(12, 35, 3, 9, 32);
         x.search(10000);
-        dueTrain(x, 9, 9, 9, 15, 12, 21);
+        Told.train(x, 9, 9, 9, 15, 12, 21);
         x.want(2772, 1235, 4, 10, 23);
         x.search(10000);
-        dueTrain(x, 11, 10, 14, 10, 18, 13, 20, 19);
+        Told.train(x, 11, 10, 14, 10, 18, 13, 20, 19);
         leastLists(x);
     }
 
@@ -233,27 +173,21 @@ public final class PromisesTest {
             int[] t = tasks[i];
             x.want(t[0], t[1], t[2], t[3], t[4]);
             x.search(1000);
-            dueTrain(x, trains[i]);
-        }
-    }
-
-    private static void dueTrain(GearDesk x, int... wheels) {
-        for (int i = 0; i < wheels.length; i++) {
-            Due.same("tooth(" + i / 2 + ", " + i % 2 + ")", x.tooth(i / 2, i % 2), wheels[i]);
+            Told.train(x, trains[i]);
         }
     }
 
     static void promise5() {
         GearDesk x = new GearDesk();
-        Due.fails("error(7) without a task", STATE, () -> x.error(7));
+        Due.fails("error(7) without a task", Due.STATE, () -> x.error(7));
         x.want(2147483647, 1000000007, 3, 20, 79);
         x.search(37819);
-        Due.fails("error(7) with a choice left", STATE, () -> x.error(7));
+        Due.fails("error(7) with a choice left", Due.STATE, () -> x.error(7));
         x.search(1);
         Due.same("error(0)", x.error(0), 7692439L);
         Due.same("error(1)", x.error(1), 115328000807296L);
         for (int part : new int[] {-1, 2, Integer.MIN_VALUE, Integer.MAX_VALUE}) {
-            Due.fails("error(" + part + ")", INDEX, () -> x.error(part));
+            Due.fails("error(" + part + ")", Due.INDEX, () -> x.error(part));
         }
         x.want(235, 19, 2, 8, 120);
         x.search(1000000);
@@ -280,29 +214,29 @@ public final class PromisesTest {
         for (int i = 0; i < 4; i++) {
             Due.same("quotient(415, 93, " + i + ")", x.quotient(415, 93, i), parts[i]);
         }
-        Due.fails("quotient(415, 93, 4)", INDEX, () -> x.quotient(415, 93, 4));
-        Due.fails("quotient(415, 93, max)", INDEX, () -> x.quotient(415, 93, Integer.MAX_VALUE));
-        Due.fails("quotient(415, 93, -1)", INDEX, () -> x.quotient(415, 93, -1));
-        Due.fails("quotient(415, 93, min)", INDEX, () -> x.quotient(415, 93, Integer.MIN_VALUE));
+        Due.fails("quotient(415, 93, 4)", Due.INDEX, () -> x.quotient(415, 93, 4));
+        Due.fails("quotient(415, 93, max)", Due.INDEX, () -> x.quotient(415, 93, Integer.MAX_VALUE));
+        Due.fails("quotient(415, 93, -1)", Due.INDEX, () -> x.quotient(415, 93, -1));
+        Due.fails("quotient(415, 93, min)", Due.INDEX, () -> x.quotient(415, 93, Integer.MIN_VALUE));
         Due.same("quotient(1, max, 0)", x.quotient(1, Integer.MAX_VALUE, 0), 0);
         Due.same("quotient(1, max, 1)", x.quotient(1, Integer.MAX_VALUE, 1), Integer.MAX_VALUE);
         Due.same("quotient(max, 1, 0)", x.quotient(Integer.MAX_VALUE, 1, 0), Integer.MAX_VALUE);
-        Due.fails("quotient(6, 3, 1)", INDEX, () -> x.quotient(6, 3, 1));
+        Due.fails("quotient(6, 3, 1)", Due.INDEX, () -> x.quotient(6, 3, 1));
         Due.same("quotient(6, 4, 1), not in lowest terms", x.quotient(6, 4, 1), 2);
         // The longest of all: two neighbours in Fibonacci's row.
         Due.same("quotient(1836311903, 1134903170, 43)", x.quotient(1836311903, 1134903170, 43), 2);
         Due.same("quotient(1836311903, 1134903170, 42)", x.quotient(1836311903, 1134903170, 42), 1);
-        Due.fails("quotient(1836311903, 1134903170, 44)", INDEX, () -> x.quotient(1836311903, 1134903170, 44));
+        Due.fails("quotient(1836311903, 1134903170, 44)", Due.INDEX, () -> x.quotient(1836311903, 1134903170, 44));
         for (int[] w : new int[][] {{0, 1}, {1, 0}, {-5, 3}, {5, -3}, {Integer.MIN_VALUE, Integer.MIN_VALUE}}) {
-            Due.fails("quotient(" + w[0] + ", " + w[1] + ", 0)", ARGUMENT, () -> x.quotient(w[0], w[1], 0));
-            Due.fails("quotient(" + w[0] + ", " + w[1] + ", -1)", ARGUMENT, () -> x.quotient(w[0], w[1], -1));
+            Due.fails("quotient(" + w[0] + ", " + w[1] + ", 0)", Due.ARGUMENT, () -> x.quotient(w[0], w[1], 0));
+            Due.fails("quotient(" + w[0] + ", " + w[1] + ", -1)", Due.ARGUMENT, () -> x.quotient(w[0], w[1], -1));
         }
     }
 
     static void promise7() {
         GearDesk x = new GearDesk();
         for (int teeth : new int[] {3, 0, -4, 1001, Integer.MIN_VALUE, Integer.MAX_VALUE}) {
-            Due.fails("gear(" + teeth + ")", ARGUMENT, () -> x.gear(teeth));
+            Due.fails("gear(" + teeth + ")", Due.ARGUMENT, () -> x.gear(teeth));
         }
         Due.same("no gear by a wrong call", x.count(0), 0);
         Due.same("gear(4)", x.gear(4), 0);
@@ -310,103 +244,103 @@ public final class PromisesTest {
         for (int g = 2; g < 60; g++) {
             Due.same("gear(20)", x.gear(20), g);
         }
-        Due.fails("the 61st gear", STATE, () -> x.gear(20));
-        Due.fails("the 61st gear with wrong teeth", ARGUMENT, () -> x.gear(3));
+        Due.fails("the 61st gear", Due.STATE, () -> x.gear(20));
+        Due.fails("the 61st gear with wrong teeth", Due.ARGUMENT, () -> x.gear(3));
         Due.same("gears", x.count(0), 60);
         x.mesh(0, 1);
         x.crank(0);
         x.solve();
-        dueSpeed("4 teeth on 1000", x, 1, -1, 250);
+        Told.speed("4 teeth on 1000", x, 1, -1, 250);
     }
 
     static void promise8() {
-        GearDesk x = withGears(20, 40, 50);
+        GearDesk x = Desks.withGears(20, 40, 50);
         for (int[] w : new int[][] {{-1, 0}, {0, -1}, {3, 0}, {0, 3}, {3, 3}, {-1, -1}, {0, Integer.MAX_VALUE}}) {
-            Due.fails("mesh(" + w[0] + ", " + w[1] + ")", INDEX, () -> x.mesh(w[0], w[1]));
+            Due.fails("mesh(" + w[0] + ", " + w[1] + ")", Due.INDEX, () -> x.mesh(w[0], w[1]));
         }
-        Due.fails("mesh(1, 1)", ARGUMENT, () -> x.mesh(1, 1));
+        Due.fails("mesh(1, 1)", Due.ARGUMENT, () -> x.mesh(1, 1));
         Due.same("no relation by a wrong call", x.count(1), 0);
         Due.same("mesh(0, 1)", x.mesh(0, 1), 0);
         Due.same("mesh(2, 1)", x.mesh(2, 1), 1);
         Due.same("mesh(0, 1) again", x.mesh(0, 1), 2);
-        dueRelation("mesh(2, 1)", x, 1, 0, 2, 1, GearDesk.NONE);
+        Told.relation("mesh(2, 1)", x, 1, 0, 2, 1, GearDesk.NONE);
         x.crank(0);
         Due.same("solve()", x.solve(), GearDesk.NONE);
-        dueSpeed("mesh", x, 1, -1, 2);
-        dueSpeed("mesh of mesh", x, 2, 2, 5);
+        Told.speed("mesh", x, 1, -1, 2);
+        Told.speed("mesh of mesh", x, 2, 2, 5);
         GearDesk y = full();
-        Due.fails("the 121st relation", STATE, () -> y.mesh(0, 1));
-        Due.fails("the 121st relation, of one gear", ARGUMENT, () -> y.mesh(1, 1));
-        Due.fails("the 121st relation, of no gear", INDEX, () -> y.mesh(60, 60));
+        Due.fails("the 121st relation", Due.STATE, () -> y.mesh(0, 1));
+        Due.fails("the 121st relation, of one gear", Due.ARGUMENT, () -> y.mesh(1, 1));
+        Due.fails("the 121st relation, of no gear", Due.INDEX, () -> y.mesh(60, 60));
         Due.same("relations", y.count(1), 120);
     }
 
     static void promise9() {
-        GearDesk x = withGears(20, 40, 40, 90);
+        GearDesk x = Desks.withGears(20, 40, 40, 90);
         for (int[] w : new int[][] {{-1, 0}, {0, -1}, {4, 0}, {0, 4}, {4, 4}}) {
-            Due.fails("inner(" + w[0] + ", " + w[1] + ")", INDEX, () -> x.inner(w[0], w[1]));
+            Due.fails("inner(" + w[0] + ", " + w[1] + ")", Due.INDEX, () -> x.inner(w[0], w[1]));
         }
-        Due.fails("inner of one gear", ARGUMENT, () -> x.inner(1, 1));
-        Due.fails("inner with fewer teeth", ARGUMENT, () -> x.inner(1, 0));
-        Due.fails("inner with as many teeth", ARGUMENT, () -> x.inner(1, 2));
+        Due.fails("inner of one gear", Due.ARGUMENT, () -> x.inner(1, 1));
+        Due.fails("inner with fewer teeth", Due.ARGUMENT, () -> x.inner(1, 0));
+        Due.fails("inner with as many teeth", Due.ARGUMENT, () -> x.inner(1, 2));
         Due.same("no relation by a wrong call", x.count(1), 0);
         Due.same("inner(0, 1)", x.inner(0, 1), 0);
         Due.same("inner(1, 3)", x.inner(1, 3), 1);
-        dueRelation("inner(1, 3)", x, 1, 1, 1, 3, GearDesk.NONE);
+        Told.relation("inner(1, 3)", x, 1, 1, 1, 3, GearDesk.NONE);
         x.crank(3);
         x.solve();
-        dueSpeed("inner, the outer one", x, 3, 1, 1);
-        dueSpeed("inner", x, 1, 9, 4);
-        dueSpeed("inner of inner", x, 0, 9, 2);
+        Told.speed("inner, the outer one", x, 3, 1, 1);
+        Told.speed("inner", x, 1, 9, 4);
+        Told.speed("inner of inner", x, 0, 9, 2);
         GearDesk y = full();
-        Due.fails("the 121st relation", STATE, () -> y.inner(0, 1));
-        Due.fails("the 121st relation, with fewer teeth", ARGUMENT, () -> y.inner(1, 0));
-        Due.fails("the 121st relation, of no gear", INDEX, () -> y.inner(0, 60));
+        Due.fails("the 121st relation", Due.STATE, () -> y.inner(0, 1));
+        Due.fails("the 121st relation, with fewer teeth", Due.ARGUMENT, () -> y.inner(1, 0));
+        Due.fails("the 121st relation, of no gear", Due.INDEX, () -> y.inner(0, 60));
         Due.same("relations", y.count(1), 120);
     }
 
     static void promise10() {
-        GearDesk x = withGears(20, 40, 50);
+        GearDesk x = Desks.withGears(20, 40, 50);
         for (int[] w : new int[][] {{-1, 0}, {0, -1}, {3, 0}, {0, 3}, {3, 3}}) {
-            Due.fails("arbor(" + w[0] + ", " + w[1] + ")", INDEX, () -> x.arbor(w[0], w[1]));
+            Due.fails("arbor(" + w[0] + ", " + w[1] + ")", Due.INDEX, () -> x.arbor(w[0], w[1]));
         }
-        Due.fails("arbor of one gear", ARGUMENT, () -> x.arbor(0, 0));
+        Due.fails("arbor of one gear", Due.ARGUMENT, () -> x.arbor(0, 0));
         Due.same("no relation by a wrong call", x.count(1), 0);
         Due.same("arbor(2, 0)", x.arbor(2, 0), 0);
-        dueRelation("arbor(2, 0)", x, 0, 2, 2, 0, GearDesk.NONE);
+        Told.relation("arbor(2, 0)", x, 0, 2, 2, 0, GearDesk.NONE);
         x.mesh(0, 1);
         x.crank(1);
         x.solve();
-        dueSpeed("arbor", x, 2, -2, 1);
+        Told.speed("arbor", x, 2, -2, 1);
         GearDesk y = full();
-        Due.fails("the 121st relation", STATE, () -> y.arbor(0, 1));
-        Due.fails("the 121st relation, of one gear", ARGUMENT, () -> y.arbor(0, 0));
-        Due.fails("the 121st relation, of no gear", INDEX, () -> y.arbor(-1, -1));
+        Due.fails("the 121st relation", Due.STATE, () -> y.arbor(0, 1));
+        Due.fails("the 121st relation, of one gear", Due.ARGUMENT, () -> y.arbor(0, 0));
+        Due.fails("the 121st relation, of no gear", Due.INDEX, () -> y.arbor(-1, -1));
     }
 
     static void promise11() {
-        GearDesk x = withGears(20, 70, 33, 10);
+        GearDesk x = Desks.withGears(20, 70, 33, 10);
         for (int[] w : new int[][] {{-1, 0, 1}, {0, -1, 1}, {0, 1, -1}, {4, 0, 1}, {0, 4, 1}, {0, 1, 4}, {0, 0, 4}}) {
-            Due.fails("planet(" + w[0] + ", " + w[1] + ", " + w[2] + ")", INDEX, () -> x.planet(w[0], w[1], w[2]));
+            Due.fails("planet(" + w[0] + ", " + w[1] + ", " + w[2] + ")", Due.INDEX, () -> x.planet(w[0], w[1], w[2]));
         }
         for (int[] w : new int[][] {{0, 0, 1}, {0, 1, 0}, {1, 0, 0}, {2, 2, 2}}) {
-            Due.fails("planet(" + w[0] + ", " + w[1] + ", " + w[2] + ")", ARGUMENT, () -> x.planet(w[0], w[1], w[2]));
+            Due.fails("planet(" + w[0] + ", " + w[1] + ", " + w[2] + ")", Due.ARGUMENT, () -> x.planet(w[0], w[1], w[2]));
         }
         Due.same("no relation by a wrong call", x.count(1), 0);
         Due.same("planet(0, 1, 2)", x.planet(0, 1, 2), 0);
-        dueRelation("planet(0, 1, 2)", x, 0, 3, 0, 1, 2);
+        Told.relation("planet(0, 1, 2)", x, 0, 3, 0, 1, 2);
         x.crank(0);
         x.solve();
-        dueSpeed("the sun alone", x, 0, 1, 1);
-        Due.fails("ring and carrier are free", STATE, () -> x.speed(1, 0, 0));
-        Due.fails("carrier and ring are free", STATE, () -> x.speed(2, 0, 0));
+        Told.speed("the sun alone", x, 0, 1, 1);
+        Due.fails("ring and carrier are free", Due.STATE, () -> x.speed(1, 0, 0));
+        Due.fails("carrier and ring are free", Due.STATE, () -> x.speed(2, 0, 0));
         // 20 * (1 - c) + 70 * (r - c) = 0 with r = -2: c = -120/90.
         x.mesh(0, 3);
         x.arbor(3, 1);
         x.solve();
-        dueSpeed("the ring", x, 1, -2, 1);
-        dueSpeed("the carrier", x, 2, -4, 3);
-        GearDesk y = withGears(20, 70, 33, 20, 12);
+        Told.speed("the ring", x, 1, -2, 1);
+        Told.speed("the carrier", x, 2, -4, 3);
+        GearDesk y = Desks.withGears(20, 70, 33, 20, 12);
         y.crank(0);
         y.planet(0, 1, 2);
         // Two wheels that mesh and mesh inside stand still: the ring is held by their arbor.
@@ -414,33 +348,33 @@ public final class PromisesTest {
         y.inner(4, 3);
         y.arbor(1, 3);
         Due.same("a ring that is held", y.solve(), GearDesk.NONE);
-        dueSpeed("a ring that is held", y, 1, 0, 1);
-        dueSpeed("its carrier", y, 2, 2, 9);
+        Told.speed("a ring that is held", y, 1, 0, 1);
+        Told.speed("its carrier", y, 2, 2, 9);
         GearDesk z = full();
-        Due.fails("the 121st relation", STATE, () -> z.planet(0, 1, 2));
-        Due.fails("the 121st relation, of two gears", ARGUMENT, () -> z.planet(0, 1, 1));
-        Due.fails("the 121st relation, of no gear", INDEX, () -> z.planet(1, 1, 60));
+        Due.fails("the 121st relation", Due.STATE, () -> z.planet(0, 1, 2));
+        Due.fails("the 121st relation, of two gears", Due.ARGUMENT, () -> z.planet(0, 1, 1));
+        Due.fails("the 121st relation, of no gear", Due.INDEX, () -> z.planet(1, 1, 60));
     }
 
     static void promise12() {
-        GearDesk x = withGears(20, 40, 50, 60);
-        Due.fails("remove(0) of none", INDEX, () -> x.remove(0));
+        GearDesk x = Desks.withGears(20, 40, 50, 60);
+        Due.fails("remove(0) of none", Due.INDEX, () -> x.remove(0));
         x.mesh(0, 1);
         x.inner(1, 2);
         x.arbor(2, 3);
         x.planet(3, 1, 0);
         for (int r : new int[] {-1, 4, Integer.MIN_VALUE, Integer.MAX_VALUE}) {
-            Due.fails("remove(" + r + ")", INDEX, () -> x.remove(r));
+            Due.fails("remove(" + r + ")", Due.INDEX, () -> x.remove(r));
         }
         Due.same("no relation gone by a wrong call", x.count(1), 4);
         Due.same("remove(1)", x.remove(1), 3);
-        dueRelation("before it", x, 0, 0, 0, 1, GearDesk.NONE);
-        dueRelation("behind it", x, 1, 2, 2, 3, GearDesk.NONE);
-        dueRelation("last", x, 2, 3, 3, 1, 0);
-        Due.fails("the place of the last", INDEX, () -> x.relation(3, 0));
+        Told.relation("before it", x, 0, 0, 0, 1, GearDesk.NONE);
+        Told.relation("behind it", x, 1, 2, 2, 3, GearDesk.NONE);
+        Told.relation("last", x, 2, 3, 3, 1, 0);
+        Due.fails("the place of the last", Due.INDEX, () -> x.relation(3, 0));
         Due.same("remove the last", x.remove(2), 2);
         Due.same("remove the first", x.remove(0), 1);
-        dueRelation("the one that is left", x, 0, 2, 2, 3, GearDesk.NONE);
+        Told.relation("the one that is left", x, 0, 2, 2, 3, GearDesk.NONE);
         Due.same("remove the only one", x.remove(0), 0);
         GearDesk y = full();
         y.crank(0);
@@ -452,83 +386,83 @@ public final class PromisesTest {
     }
 
     static void promise13() {
-        GearDesk x = withGears(20, 40, 50, 60);
+        GearDesk x = Desks.withGears(20, 40, 50, 60);
         x.mesh(3, 1);
         x.planet(2, 3, 0);
         x.inner(1, 2);
         x.arbor(3, 0);
-        dueRelation("mesh", x, 0, 0, 3, 1, GearDesk.NONE);
-        dueRelation("planet", x, 1, 3, 2, 3, 0);
-        dueRelation("inner", x, 2, 1, 1, 2, GearDesk.NONE);
-        dueRelation("arbor", x, 3, 2, 3, 0, GearDesk.NONE);
+        Told.relation("mesh", x, 0, 0, 3, 1, GearDesk.NONE);
+        Told.relation("planet", x, 1, 3, 2, 3, 0);
+        Told.relation("inner", x, 2, 1, 1, 2, GearDesk.NONE);
+        Told.relation("arbor", x, 3, 2, 3, 0, GearDesk.NONE);
         for (int[] w : new int[][] {{-1, 0}, {4, 0}, {0, -1}, {0, 4}, {4, 4}, {Integer.MAX_VALUE, Integer.MIN_VALUE}}) {
-            Due.fails("relation(" + w[0] + ", " + w[1] + ")", INDEX, () -> x.relation(w[0], w[1]));
+            Due.fails("relation(" + w[0] + ", " + w[1] + ")", Due.INDEX, () -> x.relation(w[0], w[1]));
         }
     }
 
     static void promise14() {
-        GearDesk x = withGears(20, 40);
+        GearDesk x = Desks.withGears(20, 40);
         for (int g : new int[] {-1, 2, Integer.MIN_VALUE, Integer.MAX_VALUE}) {
-            Due.fails("crank(" + g + ")", INDEX, () -> x.crank(g));
+            Due.fails("crank(" + g + ")", Due.INDEX, () -> x.crank(g));
         }
-        Due.fails("no crank by a wrong call", STATE, x::solve);
+        Due.fails("no crank by a wrong call", Due.STATE, x::solve);
         Due.same("the first crank", x.crank(1), GearDesk.NONE);
-        Due.fails("crank(2)", INDEX, () -> x.crank(2));
+        Due.fails("crank(2)", Due.INDEX, () -> x.crank(2));
         Due.same("the same again", x.crank(1), 1);
         x.mesh(0, 1);
         x.solve();
-        dueSpeed("crank 1", x, 0, -2, 1);
+        Told.speed("crank 1", x, 0, -2, 1);
         Due.same("another crank", x.crank(0), 1);
-        dueSpeed("speeds stay until solve()", x, 0, -2, 1);
+        Told.speed("speeds stay until solve()", x, 0, -2, 1);
         x.solve();
-        dueSpeed("crank 0", x, 0, 1, 1);
-        dueSpeed("crank 0, the other", x, 1, -1, 2);
+        Told.speed("crank 0", x, 0, 1, 1);
+        Told.speed("crank 0, the other", x, 1, -1, 2);
     }
 
     static void promise15() {
-        GearDesk x = withGears(20, 40, 60, 35, 24);
-        Due.fails("solve() without a crank", STATE, x::solve);
+        GearDesk x = Desks.withGears(20, 40, 60, 35, 24);
+        Due.fails("solve() without a crank", Due.STATE, x::solve);
         x.crank(2);
         Due.same("solve() without relations", x.solve(), GearDesk.NONE);
-        dueCounts("the crank alone", x, 5, 0, 0, 1);
+        Told.counts("the crank alone", x, 5, 0, 0, 1);
         x.mesh(4, 2);
         x.solve();
-        dueSpeed("mesh", x, 4, -5, 2);
+        Told.speed("mesh", x, 4, -5, 2);
         x.arbor(3, 1);
         Due.same("a pair apart from the crank", x.solve(), GearDesk.NONE);
-        Due.fails("has no speed", STATE, () -> x.speed(3, 0, 0));
+        Due.fails("has no speed", Due.STATE, () -> x.speed(3, 0, 0));
         x.planet(4, 3, 2);
         x.arbor(4, 2);
         x.mesh(0, 1);
         x.inner(0, 1);
         // The planet needs nothing that the arbor forbids, but mesh and arbor clash.
         Due.same("the first that clashes", x.solve(), 2);
-        dueSpeed("speeds stay", x, 4, -5, 2);
+        Told.speed("speeds stay", x, 4, -5, 2);
         x.remove(3);
         // 24 * (-5/2 - 1) + 35 * (r - 1) = 0: r = 17/5 for gears 3 and 1; then mesh and inner ask 0 of it.
         Due.same("the first that clashes now", x.solve(), 0);
         x.remove(4);
         Due.same("nothing clashes", x.solve(), GearDesk.NONE);
-        dueSpeed("the ring", x, 3, 17, 5);
-        dueSpeed("on its arbor", x, 1, 17, 5);
-        dueSpeed("meshing", x, 0, -34, 5);
+        Told.speed("the ring", x, 3, 17, 5);
+        Told.speed("on its arbor", x, 1, 17, 5);
+        Told.speed("meshing", x, 0, -34, 5);
         clashes();
         lengths();
     }
 
     private static void clashes() {
-        GearDesk x = withGears(30, 20, 40);
+        GearDesk x = Desks.withGears(30, 20, 40);
         x.crank(1);
         x.mesh(1, 2);
         x.inner(1, 2);
         Due.same("a clash of two", x.solve(), 1);
-        GearDesk y = withGears(30, 20, 40, 17, 90);
+        GearDesk y = Desks.withGears(30, 20, 40, 17, 90);
         y.mesh(1, 2);
         y.inner(1, 2);
         y.crank(0);
         Due.same("gears that stand still do not clash", y.solve(), GearDesk.NONE);
-        dueSpeed("standing still", y, 1, 0, 1);
-        dueSpeed("standing still", y, 2, 0, 1);
+        Told.speed("standing still", y, 1, 0, 1);
+        Told.speed("standing still", y, 2, 0, 1);
         y.crank(2);
         Due.same("but the crank does", y.solve(), 1);
         y.crank(0);
@@ -536,7 +470,7 @@ public final class PromisesTest {
         y.planet(2, 4, 0);
         // 90 * (w - 1) = 40: w = 13/9, on gears 4 and 3.
         y.solve();
-        dueSpeed("a sun that stands still", y, 4, 13, 9);
+        Told.speed("a sun that stands still", y, 4, 13, 9);
         y.planet(4, 2, 3);
         Due.same("the lowest of three gears", y.solve(), 2);
         y.remove(4);
@@ -552,9 +486,9 @@ public final class PromisesTest {
         for (int swap = 0; swap < 2; swap++) {
             int driver = swap == 0 ? 512 : 5;
             int driven = swap == 0 ? 5 : 512;
-            GearDesk x = withGears(driver);
+            GearDesk x = Desks.withGears(driver);
             x.crank(0);
-            int last = chain(x, 0, driver, driven, 28);
+            int last = Desks.chain(x, 0, driver, driven, 28);
             int a = x.gear(swap == 0 ? 8 : 5);
             int b = x.gear(swap == 0 ? 5 : 8);
             int c = x.gear(swap == 0 ? 16 : 10);
@@ -576,46 +510,46 @@ public final class PromisesTest {
                 x.remove(e);
                 x.mesh(a, d);
             }
-            Due.fails("257 bits", TOO_LARGE, x::solve);
+            Due.fails("257 bits", Due.TOO_LARGE, x::solve);
             Due.same("speeds stay", x.count(3), known);
             Due.same("speeds stay as they are", x.speed(b, 1 + swap, 7), Integer.MIN_VALUE);
-            Due.fails("that one has none", STATE, () -> x.speed(d, 0, 0));
+            Due.fails("that one has none", Due.STATE, () -> x.speed(d, 0, 0));
             x.arbor(d, last);
             Due.same("a clash comes before a long speed", x.solve(), Math.min(d, last));
         }
-        GearDesk y = withGears(512);
+        GearDesk y = Desks.withGears(512);
         int crank = y.gear(100);
         y.crank(crank);
-        chain(y, 0, 512, 5, 29);
+        Desks.chain(y, 0, 512, 5, 29);
         Due.same("long ratios apart from the crank", y.solve(), GearDesk.NONE);
-        dueCounts("long ratios apart from the crank", y, 59, 57, 0, 1);
+        Told.counts("long ratios apart from the crank", y, 59, 57, 0, 1);
     }
 
     static void promise16() {
-        GearDesk x = withGears(20, 40, 60);
+        GearDesk x = Desks.withGears(20, 40, 60);
         x.crank(0);
         for (int[] w : new int[][] {{-1, 0, 0}, {3, 0, 0}, {0, -1, 0}, {0, 3, 0}, {0, 0, 1}, {0, 0, -1}, {0, 1, 8},
             {0, 2, 8}, {0, 1, -1}, {0, 2, -1}, {Integer.MAX_VALUE, 1, 1}}) {
-            Due.fails("speed(" + w[0] + ", " + w[1] + ", " + w[2] + ") before", INDEX, () -> x.speed(w[0], w[1], w[2]));
+            Due.fails("speed(" + w[0] + ", " + w[1] + ", " + w[2] + ") before", Due.INDEX, () -> x.speed(w[0], w[1], w[2]));
         }
-        Due.fails("speed(0, 0, 0) before solve()", STATE, () -> x.speed(0, 0, 0));
-        Due.fails("speed(0, 2, 7) before solve()", STATE, () -> x.speed(0, 2, 7));
+        Due.fails("speed(0, 0, 0) before solve()", Due.STATE, () -> x.speed(0, 0, 0));
+        Due.fails("speed(0, 2, 7) before solve()", Due.STATE, () -> x.speed(0, 2, 7));
         x.mesh(0, 1);
         x.solve();
-        dueSpeed("the crank", x, 0, 1, 1);
-        dueSpeed("20 on 40", x, 1, -1, 2);
-        Due.fails("a gear that is not determined", STATE, () -> x.speed(2, 1, 0));
-        Due.fails("a wrong word of it", INDEX, () -> x.speed(2, 1, 8));
+        Told.speed("the crank", x, 0, 1, 1);
+        Told.speed("20 on 40", x, 1, -1, 2);
+        Due.fails("a gear that is not determined", Due.STATE, () -> x.speed(2, 1, 0));
+        Due.fails("a wrong word of it", Due.INDEX, () -> x.speed(2, 1, 8));
         int g = x.gear(77);
-        Due.fails("a gear that came since", STATE, () -> x.speed(g, 0, 0));
+        Due.fails("a gear that came since", Due.STATE, () -> x.speed(g, 0, 0));
         x.arbor(1, g);
         x.remove(0);
         x.solve();
-        Due.fails("no longer determined", STATE, () -> x.speed(1, 0, 0));
+        Due.fails("no longer determined", Due.STATE, () -> x.speed(1, 0, 0));
         Due.same("gears with a speed", x.count(3), 1);
-        GearDesk y = withGears(1000);
+        GearDesk y = Desks.withGears(1000);
         y.crank(0);
-        int last = chain(y, 0, 1000, 7, 9);
+        int last = Desks.chain(y, 0, 1000, 7, 9);
         y.solve();
         // 10 to the 27th: 0x33b2e3c 9fd0803c e8000000.
         int[] words = {0xe8000000, 0x9fd0803c, 0x33b2e3c, 0, 0, 0, 0, 0};
@@ -627,19 +561,19 @@ public final class PromisesTest {
     }
 
     static void promise17() {
-        GearDesk x = withGears(20, 40);
+        GearDesk x = Desks.withGears(20, 40);
         for (int[] w : new int[][] {{-1, 0, 1}, {12, 0, 1}, {0, -1, 1}, {0, 2, 1}, {12, 2, 0}, {0, 2, 0}}) {
-            Due.fails("dial(" + w[0] + ", " + w[1] + ", " + w[2] + ")", INDEX, () -> x.dial(w[0], w[1], w[2]));
+            Due.fails("dial(" + w[0] + ", " + w[1] + ", " + w[2] + ")", Due.INDEX, () -> x.dial(w[0], w[1], w[2]));
         }
         for (int divisions : new int[] {0, -1, 100001, Integer.MIN_VALUE, Integer.MAX_VALUE}) {
-            Due.fails("dial(0, 0, " + divisions + ")", ARGUMENT, () -> x.dial(0, 0, divisions));
+            Due.fails("dial(0, 0, " + divisions + ")", Due.ARGUMENT, () -> x.dial(0, 0, divisions));
         }
         Due.same("no dial by a wrong call", x.count(2), 0);
         Due.same("dial(0, 1, 1)", x.dial(0, 1, 1), GearDesk.NONE);
         Due.same("dial(11, 0, 100000)", x.dial(11, 0, 100000), GearDesk.NONE);
         Due.same("dials", x.count(2), 2);
         Due.same("dial(0, 0, 12)", x.dial(0, 0, 12), 1);
-        Due.fails("dial(0, 1, 0)", ARGUMENT, () -> x.dial(0, 1, 0));
+        Due.fails("dial(0, 1, 0)", Due.ARGUMENT, () -> x.dial(0, 1, 0));
         Due.same("the gear before is not that of a wrong call", x.dial(0, 1, 60), 0);
         Due.same("dials", x.count(2), 2);
         x.crank(1);
@@ -650,51 +584,51 @@ public final class PromisesTest {
     }
 
     static void promise18() {
-        GearDesk x = withGears(20, 30, 50);
+        GearDesk x = Desks.withGears(20, 30, 50);
         x.mesh(0, 1);
         x.crank(0);
         x.dial(3, 1, 60);
         x.dial(4, 2, 60);
         x.dial(5, 0, 100000);
         for (int k : new int[] {-1, 0, 12, Integer.MIN_VALUE, Integer.MAX_VALUE}) {
-            Due.fails("position(" + k + ", 1, 0)", INDEX, () -> x.position(k, 1, 0));
+            Due.fails("position(" + k + ", 1, 0)", Due.INDEX, () -> x.position(k, 1, 0));
         }
-        Due.fails("position(3, 1, 0)", ARGUMENT, () -> x.position(3, 1, 0));
-        Due.fails("position(3, 1, min)", ARGUMENT, () -> x.position(3, 1, Integer.MIN_VALUE));
-        Due.fails("position(3, 1, 1) before solve()", STATE, () -> x.position(3, 1, 1));
+        Due.fails("position(3, 1, 0)", Due.ARGUMENT, () -> x.position(3, 1, 0));
+        Due.fails("position(3, 1, min)", Due.ARGUMENT, () -> x.position(3, 1, Integer.MIN_VALUE));
+        Due.fails("position(3, 1, 1) before solve()", Due.STATE, () -> x.position(3, 1, 1));
         x.solve();
-        Due.fails("position(4, 1, 1), not determined", STATE, () -> x.position(4, 1, 1));
-        dueResult("nothing found yet", x, 0, 1);
+        Due.fails("position(4, 1, 1), not determined", Due.STATE, () -> x.position(4, 1, 1));
+        Told.result("nothing found yet", x, 0, 1);
         Due.same("at the start", x.position(3, 0, 1), 0);
-        dueResult("at the start", x, 0, 1);
+        Told.result("at the start", x, 0, 1);
         // A turn of the crank is -2/3 of one: 1/3, 20 divisions.
         Due.same("position(3, 1, 1)", x.position(3, 1, 1), 20);
-        dueResult("position(3, 1, 1)", x, 0, 1);
+        Told.result("position(3, 1, 1)", x, 0, 1);
         Due.same("position(3, -1, 1)", x.position(3, -1, 1), 40);
         // -2/21: 19/21 of a turn, 54 divisions and 2/7.
         Due.same("position(3, 1, 7)", x.position(3, 1, 7), 54);
-        dueResult("position(3, 1, 7)", x, 2, 7);
+        Told.result("position(3, 1, 7)", x, 2, 7);
         Due.same("position(3, -3, 2), a whole turn", x.position(3, -3, 2), 0);
-        dueResult("position(3, -3, 2)", x, 0, 1);
+        Told.result("position(3, -3, 2)", x, 0, 1);
         Due.same("position(5, -1, max)", x.position(5, -1, Integer.MAX_VALUE), 99999);
-        dueResult("position(5, -1, max)", x, 2147383647, Integer.MAX_VALUE);
+        Told.result("position(5, -1, max)", x, 2147383647, Integer.MAX_VALUE);
         Due.same("position(5, min, max)", x.position(5, Integer.MIN_VALUE, Integer.MAX_VALUE), 99999);
-        dueResult("position(5, min, max)", x, 2147383647, Integer.MAX_VALUE);
+        Told.result("position(5, min, max)", x, 2147383647, Integer.MAX_VALUE);
         Due.same("position(5, 6, 4)", x.position(5, 6, 4), 50000);
-        Due.fails("position(3, 1, -7)", ARGUMENT, () -> x.position(3, 1, -7));
-        dueResult("stays after a wrong call", x, 0, 1);
-        GearDesk y = withGears(5);
+        Due.fails("position(3, 1, -7)", Due.ARGUMENT, () -> x.position(3, 1, -7));
+        Told.result("stays after a wrong call", x, 0, 1);
+        GearDesk y = Desks.withGears(5);
         y.crank(0);
-        int last = chain(y, 0, 5, 512, 28);
+        int last = Desks.chain(y, 0, 5, 512, 28);
         y.dial(0, last, 7);
         y.dial(1, last, 16);
         y.solve();
         y.dial(2, 0, 4);
         y.position(2, 1, 3);
-        dueResult("a rest of 1/3", y, 1, 3);
-        Due.fails("a rest by 2 to the 257th", TOO_LARGE, () -> y.position(0, 1, 32));
-        Due.fails("a rest by 2 to the 256th", TOO_LARGE, () -> y.position(0, 1, 16));
-        dueResult("stays when the rest is too large", y, 1, 3);
+        Told.result("a rest of 1/3", y, 1, 3);
+        Due.fails("a rest by 2 to the 257th", Due.TOO_LARGE, () -> y.position(0, 1, 32));
+        Due.fails("a rest by 2 to the 256th", Due.TOO_LARGE, () -> y.position(0, 1, 16));
+        Told.result("stays when the rest is too large", y, 1, 3);
         Due.same("a rest by 2 to the 255th", Due.outcome(() -> y.position(0, 1, 8)).length(), 1);
         Due.same("its highest word", y.result(1, 7), Integer.MIN_VALUE);
         Due.same("its lowest word", y.result(1, 0), 0);
@@ -704,7 +638,7 @@ public final class PromisesTest {
     }
 
     static void promise19() {
-        GearDesk x = withGears(20, 40, 30, 50, 80);
+        GearDesk x = Desks.withGears(20, 40, 30, 50, 80);
         x.mesh(0, 1);
         x.inner(0, 2);
         x.mesh(3, 4);
@@ -715,42 +649,42 @@ public final class PromisesTest {
         x.dial(3, 3, 7);
         x.dial(4, 0, 9);
         for (int[] w : new int[][] {{-1, 0}, {0, -1}, {12, 0}, {0, 12}, {5, 0}, {0, 5}, {5, 5}, {3, 5}}) {
-            Due.fails("meet(" + w[0] + ", " + w[1] + ")", INDEX, () -> Due.bit(x.meet(w[0], w[1])));
+            Due.fails("meet(" + w[0] + ", " + w[1] + ")", Due.INDEX, () -> Due.bit(x.meet(w[0], w[1])));
         }
         Due.same("before solve()", Due.bit(x.meet(0, 1)), 0);
         x.solve();
         // 1 and -1/2 differ by 3/2.
         Due.same("meet(0, 1)", Due.bit(x.meet(0, 1)), 1);
-        dueResult("meet(0, 1)", x, 2, 3);
+        Told.result("meet(0, 1)", x, 2, 3);
         Due.same("meet(0, 3), which has no speed", Due.bit(x.meet(0, 3)), 0);
         Due.same("meet(3, 0), which has no speed", Due.bit(x.meet(3, 0)), 0);
         Due.same("meet(0, 4), equal speeds", Due.bit(x.meet(0, 4)), 0);
         Due.same("meet(1, 1)", Due.bit(x.meet(1, 1)), 0);
-        Due.fails("meet(0, 11)", INDEX, () -> Due.bit(x.meet(0, 11)));
-        dueResult("stays", x, 2, 3);
+        Due.fails("meet(0, 11)", Due.INDEX, () -> Due.bit(x.meet(0, 11)));
+        Told.result("stays", x, 2, 3);
         Due.same("meet(0, 2)", Due.bit(x.meet(0, 2)), 1);
-        dueResult("meet(0, 2)", x, 3, 1);
+        Told.result("meet(0, 2)", x, 3, 1);
         Due.same("meet(2, 0)", Due.bit(x.meet(2, 0)), 1);
-        dueResult("meet(2, 0)", x, 3, 1);
+        Told.result("meet(2, 0)", x, 3, 1);
         // -1/2 and 2/3 differ by 7/6.
         Due.same("meet(1, 2)", Due.bit(x.meet(1, 2)), 1);
-        dueResult("meet(1, 2)", x, 6, 7);
+        Told.result("meet(1, 2)", x, 6, 7);
         x.inner(3, 4);
         x.solve();
         Due.same("with a hand that stands still", Due.bit(x.meet(1, 3)), 1);
-        dueResult("with a hand that stands still", x, 2, 1);
+        Told.result("with a hand that stands still", x, 2, 1);
         GearDesk y = twoLongBranches();
-        Due.fails("turns that are too large", TOO_LARGE, () -> Due.bit(y.meet(0, 1)));
-        dueResult("stays when they are too large", y, 1, 3);
+        Due.fails("turns that are too large", Due.TOO_LARGE, () -> Due.bit(y.meet(0, 1)));
+        Told.result("stays when they are too large", y, 1, 3);
         Due.same("long turns", Due.bit(y.meet(0, 2)), 1);
     }
 
     /** Dials 0 and 1 with speeds of which one has 2 to the 135th and one 3 to the 90th below, dial 2 with the crank. */
     private static GearDesk twoLongBranches() {
-        GearDesk y = withGears(5);
+        GearDesk y = Desks.withGears(5);
         y.crank(0);
-        y.dial(0, chain(y, 0, 5, 512, 15), 4);
-        y.dial(1, chain(y, 0, 5, 729, 15), 4);
+        y.dial(0, Desks.chain(y, 0, 5, 512, 15), 4);
+        y.dial(1, Desks.chain(y, 0, 5, 729, 15), 4);
         y.dial(2, 0, 4);
         y.solve();
         y.position(2, 1, 3);
@@ -758,7 +692,7 @@ public final class PromisesTest {
     }
 
     static void promise20() {
-        GearDesk x = withGears(20, 40, 30, 50, 80);
+        GearDesk x = Desks.withGears(20, 40, 30, 50, 80);
         x.mesh(0, 1);
         x.inner(0, 2);
         x.mesh(3, 4);
@@ -769,34 +703,34 @@ public final class PromisesTest {
         Due.same("no speed", Due.bit(x.back()), 0);
         x.solve();
         Due.same("no hand moves", Due.bit(x.back()), 0);
-        dueResult("stays", x, 0, 1);
+        Told.result("stays", x, 0, 1);
         x.dial(0, 1, 10);
         // -1/2 of a turn; the other stands still, at the start.
         Due.same("one hand", Due.bit(x.back()), 1);
-        dueResult("one hand", x, 2, 1);
+        Told.result("one hand", x, 2, 1);
         x.dial(11, 2, 10);
         Due.same("1/2 and 2/3", Due.bit(x.back()), 1);
-        dueResult("1/2 and 2/3", x, 6, 1);
+        Told.result("1/2 and 2/3", x, 6, 1);
         x.dial(0, 2, 10);
         Due.same("2/3", Due.bit(x.back()), 1);
-        dueResult("2/3", x, 3, 2);
+        Told.result("2/3", x, 3, 2);
         x.dial(3, x.gear(20), 10);
         Due.same("a hand without a speed", Due.bit(x.back()), 0);
-        dueResult("stays", x, 3, 2);
+        Told.result("stays", x, 3, 2);
         x.arbor(0, 5);
         x.crank(2);
         x.solve();
         // 1, 0 and 3/2.
         Due.same("another crank", Due.bit(x.back()), 1);
-        dueResult("another crank", x, 2, 1);
+        Told.result("another crank", x, 2, 1);
         GearDesk y = twoLongBranches();
-        Due.fails("turns that are too large", TOO_LARGE, () -> Due.bit(y.back()));
-        dueResult("stays when they are too large", y, 1, 3);
+        Due.fails("turns that are too large", Due.TOO_LARGE, () -> Due.bit(y.back()));
+        Told.result("stays when they are too large", y, 1, 3);
         y.dial(3, y.gear(9), 1);
         Due.same("too large, but a hand has no speed", Due.bit(y.back()), 0);
-        GearDesk z = withGears(5);
+        GearDesk z = Desks.withGears(5);
         z.crank(0);
-        int last = chain(z, 0, 5, 512, 28);
+        int last = Desks.chain(z, 0, 5, 512, 28);
         z.arbor(last, z.gear(5));
         z.mesh(last + 1, z.gear(8));
         z.dial(0, last + 2, 1);
@@ -806,13 +740,13 @@ public final class PromisesTest {
     }
 
     static void promise21() {
-        GearDesk x = withGears(1000);
+        GearDesk x = Desks.withGears(1000);
         for (int[] w : new int[][] {{-1, 0}, {2, 0}, {0, -1}, {0, 8}, {1, -1}, {1, 8}, {Integer.MIN_VALUE, 0}}) {
-            Due.fails("result(" + w[0] + ", " + w[1] + ")", INDEX, () -> x.result(w[0], w[1]));
+            Due.fails("result(" + w[0] + ", " + w[1] + ")", Due.INDEX, () -> x.result(w[0], w[1]));
         }
-        dueResult("at first", x, 0, 1);
+        Told.result("at first", x, 0, 1);
         x.crank(0);
-        x.dial(0, chain(x, 0, 1000, 7, 9), 1);
+        x.dial(0, Desks.chain(x, 0, 1000, 7, 9), 1);
         x.solve();
         x.back();
         int[] words = {0xe8000000, 0x9fd0803c, 0x33b2e3c, 0, 0, 0, 0, 0};
@@ -820,7 +754,7 @@ public final class PromisesTest {
             Due.same("7 to the ninth by 10 to the 27th, below, word " + i, x.result(1, i), words[i]);
             Due.same("7 to the ninth by 10 to the 27th, above, word " + i, x.result(0, i), i == 0 ? 40353607 : 0);
         }
-        Due.fails("result(0, 8)", INDEX, () -> x.result(0, 8));
+        Due.fails("result(0, 8)", Due.INDEX, () -> x.result(0, 8));
     }
 
     static void promise22() {
@@ -836,23 +770,23 @@ public final class PromisesTest {
         x.solve();
         x.dial(2, 1, 10);
         x.position(2, 1, 3);
-        dueResult("before clear()", x, 32, 33);
+        Told.result("before clear()", x, 32, 33);
         Due.same("clear()", x.clear(), 5);
-        dueCounts("cleared", x, 0, 0, 0, 0);
+        Told.counts("cleared", x, 0, 0, 0, 0);
         Due.same("the task stays", x.count(4), 5);
-        dueResult("the result stays", x, 32, 33);
-        Due.fails("no crank", STATE, x::solve);
-        Due.fails("no gear", INDEX, () -> x.speed(0, 0, 0));
-        Due.fails("no dial", INDEX, () -> x.position(2, 1, 1));
-        Due.fails("no relation", INDEX, () -> x.relation(0, 0));
+        Told.result("the result stays", x, 32, 33);
+        Due.fails("no crank", Due.STATE, x::solve);
+        Due.fails("no gear", Due.INDEX, () -> x.speed(0, 0, 0));
+        Due.fails("no dial", Due.INDEX, () -> x.position(2, 1, 1));
+        Due.fails("no relation", Due.INDEX, () -> x.relation(0, 0));
         Due.same("the first gear again", x.gear(30), 0);
         x.gear(60);
-        Due.fails("a new gear has no speed", STATE, () -> x.speed(0, 0, 0));
+        Due.fails("a new gear has no speed", Due.STATE, () -> x.speed(0, 0, 0));
         Due.same("none before it", x.dial(2, 0, 5), GearDesk.NONE);
         Due.same("no crank before it", x.crank(1), GearDesk.NONE);
         x.mesh(0, 1);
         x.solve();
-        dueSpeed("after clear()", x, 0, -2, 1);
+        Told.speed("after clear()", x, 0, -2, 1);
         Due.same("the search goes on", Due.bit(x.search(5)), 1);
         Due.same("clear() again", x.clear(), 2);
         Due.same("the best train stays", x.tooth(0, 1), 8);
@@ -876,16 +810,16 @@ public final class PromisesTest {
         x.dial(11, 1, 1);
         x.want(1, 1, 2, 8, 10);
         x.search(2);
-        dueCounts("before solve()", x, 3, 2, 2, 0);
+        Told.counts("before solve()", x, 3, 2, 2, 0);
         Due.same("choices left", x.count(4), 4);
         x.crank(0);
         x.solve();
-        dueCounts("after a clash", x, 3, 2, 2, 0);
+        Told.counts("after a clash", x, 3, 2, 2, 0);
         x.remove(1);
         x.solve();
-        dueCounts("after solve()", x, 3, 1, 2, 2);
+        Told.counts("after solve()", x, 3, 1, 2, 2);
         x.gear(40);
-        dueCounts("with a gear more", x, 4, 1, 2, 2);
+        Told.counts("with a gear more", x, 4, 1, 2, 2);
         Due.same("NONE", GearDesk.NONE, -1);
     }
 }

@@ -2,15 +2,10 @@ import com.sun.management.ThreadMXBean;
 import java.lang.management.ManagementFactory;
 import java.util.Random;
 
-/**
- * All calls of one run live in one room of some 600,000 objects and 7.3 million elements: a desk makes its rows once,
- * and a call that does not throw makes nothing.
- */
+/** All calls of one run live in one room of some 7.3 million fields and elements: the dearest run keeps to it. */
 public final class RoomTest {
-    /** Even of one byte each these would be two million elements, less than a third of the room. */
-    private static final long MOST_FOR_A_DESK = 2_000_000;
-    /** The machine's own bookkeeping now and then makes something too. */
-    private static final long MOST_FOR_A_RUN = 100_000;
+    /** Most elements are ints. */
+    private static final long ROOM = 4 * 7_300_000L;
 
     private RoomTest() {
     }
@@ -26,8 +21,7 @@ public final class RoomTest {
         int calls = run(desk);
         long end = threads.getThreadAllocatedBytes(id);
         System.out.println("a desk takes " + (made - start) + " bytes, " + calls + " calls " + (end - made));
-        Due.same("a desk is small", Due.bit(made - start <= MOST_FOR_A_DESK), 1);
-        Due.same("calls make nothing", Due.bit(end - made <= MOST_FOR_A_RUN), 1);
+        Due.same("a desk and a full run of calls fit the room", Due.bit(end - start <= ROOM), 1);
         Due.end("RoomTest");
     }
 

@@ -3,6 +3,8 @@ import java.util.Random;
 
 /** Tasks small enough to look at every train there is, in every order of its wheels. */
 public final class TrainsModelTest {
+    private static final int TASKS_OF_A_DESK = 8;
+
     private final int num;
     private final int den;
     private final int stages;
@@ -28,6 +30,8 @@ public final class TrainsModelTest {
         Random random = new Random(7);
         GearDesk kept = new GearDesk();
         for (int i = 0; i < 500 && Due.wrongSoFar() < 20; i++) {
+            // One desk for several tasks, but not for more than 512 calls.
+            kept = i % TASKS_OF_A_DESK == 0 ? new GearDesk() : kept;
             int stages = 1 + i % 4;
             int numbers = new int[] {40, 9, 4, 3}[stages - 1];
             int n = 1 + random.nextInt(numbers);
@@ -38,14 +42,16 @@ public final class TrainsModelTest {
             int num = (int) Math.max(1, Math.min(Integer.MAX_VALUE, near));
             new TrainsModelTest(num, den, stages, low, low + n - 1).compare(kept, random);
         }
-        ties(kept, random);
-        largeTasks(kept);
+        ties(random);
+        largeTasks(new GearDesk());
         Due.end("TrainsModelTest");
     }
 
     /** Wanted ratios half way between two trains', so that one from below and one from above tie. */
-    private static void ties(GearDesk desk, Random random) {
+    private static void ties(Random random) {
+        GearDesk desk = new GearDesk();
         for (int i = 0; i < 200 && Due.wrongSoFar() < 20; i++) {
+            desk = i % TASKS_OF_A_DESK == 0 ? new GearDesk() : desk;
             int low = 8 + random.nextInt(100);
             int high = low + 5;
             int a = low + random.nextInt(6);
