@@ -139,7 +139,8 @@ public final class CallsTest {
             first(Due.ARGUMENT, Desks.BUSY, "position(11, 1, 0)", x -> x.position(11, 1, 0));
             first(Due.INDEX, Desks.LONG_TOPS, "meet(0, 4)", x -> Due.bit(x.meet(0, 4)));
         });
-        Due.sentence("promise 15", "IllegalStateException .. UnsupportedOperationException (no crank, no speed)", () -> {
+        Due.sentence("promise 15",
+                "IllegalStateException .. UnsupportedOperationException (no crank, no speed)", () -> {
             GearDesk x = Desks.withGears(512);
             Desks.chain(x, 0, 512, 5, 29);
             Due.fails("a long chain without a crank", Due.STATE, x::solve);
@@ -148,7 +149,8 @@ public final class CallsTest {
         });
     }
 
-    private static void first(Class<? extends RuntimeException> due, Desks desks, String what, Unchanged.DeskCall call) {
+    private static void first(Class<? extends RuntimeException> due, Desks desks, String what,
+            Unchanged.DeskCall call) {
         GearDesk desk = desks.make();
         Due.fails(desks + ": " + what, due, () -> call.on(desk));
     }

@@ -24,7 +24,8 @@ public final class DialEdgesTest {
         Due.end("DialEdgesTest");
     }
 
-    private static void refusedDial(Class<? extends RuntimeException> due, Desks desks, int k, int gear, int divisions) {
+    private static void refusedDial(Class<? extends RuntimeException> due, Desks desks, int k, int gear,
+            int divisions) {
         Unchanged.throwing(due, desks, "dial(" + k + ", " + gear + ", " + divisions + ")",
                 x -> x.dial(k, gear, divisions));
     }
@@ -74,7 +75,8 @@ public final class DialEdgesTest {
             Due.same("1 division", x.position(0, 99999, 100000), 0);
             Due.same("100000 divisions", x.position(1, 99999, 100000), 99999);
         });
-        Due.sentence("promise 17", "Dial k has a gear and divisions (also a gear without a speed, and one gear twice)", () -> {
+        Due.sentence("promise 17",
+                "Dial k has a gear and divisions (also a gear without a speed, and one gear twice)", () -> {
             GearDesk x = Desks.withGears(20);
             Due.same("before solve()", x.dial(3, 0, 4), NONE);
             Due.same("one gear twice", x.dial(4, 0, 8), NONE);
@@ -196,7 +198,8 @@ public final class DialEdgesTest {
                 Told.result("dial " + k, x, 0, 1);
             }
         });
-        Due.sentence("Terms", "a hand makes as many turns as its gear: speed times turns (one that stands still)", () -> {
+        Due.sentence("Terms",
+                "a hand makes as many turns as its gear: speed times turns (one that stands still)", () -> {
             GearDesk x = Desks.LONG_TOPS.make();
             x.dial(1, 58, 100000);
             Due.same("it never moves", x.position(1, MIN, 7), 0);
@@ -247,6 +250,17 @@ public final class DialEdgesTest {
             x.dial(1, 1, 20);
             Due.same("before solve()", Due.bit(x.meet(0, 1)), 0);
             Told.result("stays", x, 0, 1);
+            x.mesh(0, 1);
+            x.crank(0);
+            x.solve();
+            x.solve();
+            x.remove(0);
+            x.solve();
+            Due.same("the second one had a speed once", Due.bit(x.meet(0, 1)), 0);
+            Due.same("told the other way", Due.bit(x.meet(1, 0)), 0);
+            Due.same("nor are both back", Due.bit(x.back()), 0);
+            Due.fails("nor does it point anywhere", Due.STATE, () -> x.position(1, 1, 1));
+            Told.result("stays", x, 0, 1);
         });
         Due.sentence("promise 19", "IndexOutOfBoundsException, when a dial has no gear", () -> {
             refusedMeet(Due.INDEX, Desks.NEW, 0, 0);
@@ -289,7 +303,8 @@ public final class DialEdgesTest {
     }
 
     private static void back() {
-        Due.sentence("promise 20", "The least turns of the crank above 0 at which all dials' hands are at the start", () -> {
+        Due.sentence("promise 20",
+                "The least turns of the crank above 0 at which all dials' hands are at the start", () -> {
             GearDesk x = Desks.BUSY.make();
             x.dial(11, 0, 7);
             // 1/2, 2/3, 13/14 and 1: of the denominators 42, of the numerators 1.
@@ -376,7 +391,8 @@ public final class DialEdgesTest {
     }
 
     private static void result() {
-        Due.sentence("promise 21", "word i (0 .. 7, as for speed()) of the numerator (part 0) or the denominator (1)", () -> {
+        Due.sentence("promise 21",
+                "word i (0 .. 7, as for speed()) of the numerator (part 0) or the denominator (1)", () -> {
             GearDesk x = Desks.LONG_BOTTOMS.make();
             x.meet(0, 1);
             Due.same("word 7 of 2 to the 255th", x.result(0, 7), MIN);
@@ -387,10 +403,13 @@ public final class DialEdgesTest {
             Due.same("word 7 of 5 to the 29th", x.result(1, 7), 0);
         });
         Due.sentence("promise 21", "IndexOutOfBoundsException, for another part or word", () -> {
-            int[][] wrongs = {{-1, 0}, {2, 0}, {MIN, 0}, {MAX, 0}, {0, -1}, {0, 8}, {1, -1}, {1, 8}, {0, MIN}, {1, MAX}, {2, 8}};
+            int[][] wrongs = {
+                {-1, 0}, {2, 0}, {MIN, 0}, {MAX, 0}, {0, -1}, {0, 8}, {1, -1}, {1, 8}, {0, MIN}, {1, MAX}, {2, 8},
+            };
             for (int[] w : wrongs) {
                 for (Desks desks : new Desks[] {Desks.NEW, Desks.BUSY}) {
-                    Unchanged.throwing(Due.INDEX, desks, "result(" + w[0] + ", " + w[1] + ")", x -> x.result(w[0], w[1]));
+                    Unchanged.throwing(Due.INDEX, desks, "result(" + w[0] + ", " + w[1] + ")",
+                            x -> x.result(w[0], w[1]));
                 }
             }
             Unchanged.answering(34, Desks.BUSY, "result(0, 0)", x -> x.result(0, 0));
@@ -467,7 +486,8 @@ public final class DialEdgesTest {
             Told.counts("no old relation", x, 60, 0, 12, 1);
             Due.same("the first relation", x.planet(2, 1, 0), 0);
         });
-        Due.sentence("promise 22", "No gears, relations, dials, no crank (the task and the result are none of these)", () -> {
+        Due.sentence("promise 22",
+                "No gears, relations, dials, no crank (the task and the result are none of these)", () -> {
             GearDesk x = Desks.BUSY.make();
             x.clear();
             Told.result("the result stays", x, 34, 63);

@@ -41,13 +41,15 @@ public final class FaceTest {
             "UnsupportedOperationException", "Unsupported");
     /** Rules 2, 4, 5, 6 and 13: what the source may not have anywhere. */
     private static final String[] FORBIDDEN = {
-        "::", "(?m)^(?!\\s*(case|default)\\b).*->", "\\bsynchronized\\b", "\\bassert\\b", "\\bfinally\\b", "\\w+Exact\\b",
-        "\\bstatic \\{", "\\bpackage\\b", "\\bSystem\\.(?!arraycopy\\b)", "\\bArrays\\.(?!fill\\b|copyOf\\b|copyOfRange\\b)",
+        "::", "(?m)^(?!\\s*(case|default)\\b).*->", "\\bstatic \\{", "\\bpackage\\b",
+        "\\bsynchronized\\b", "\\bassert\\b", "\\bfinally\\b",
+        "\\w+Exact\\b", "\\bSystem\\.(?!arraycopy\\b)", "\\bArrays\\.(?!fill\\b|copyOf\\b|copyOfRange\\b)",
         "\\bRandom\\b", "\\brandom\\b", "\\bThread\\b", "\\bhashCode\\b", "\\bprintStackTrace\\b", "\\bgetMessage\\b",
-        "(?m)^import (?!java\\.util\\.(Arrays|ArrayList|List|Iterator|NoSuchElementException);)", "\\bjava\\.(?!util\\.)",
+        "(?m)^import (?!java\\.util\\.(Arrays|ArrayList|List|Iterator|NoSuchElementException);)",
+        "\\bjava\\.(?!util\\.)",
         "\\bthrow (?!new \\w+\\((\"[^\"]*\")?\\);)",
-        "\\bthrow new (?!(IllegalState|IllegalArgument|IndexOutOfBounds|Arithmetic|UnsupportedOperation|NoSuchElement|Runtime)"
-                + "Exception\\()",
+        "\\bthrow new (?!(IllegalState|IllegalArgument|IndexOutOfBounds|Arithmetic|UnsupportedOperation|NoSuchElement"
+                + "|Runtime)Exception\\()",
     };
     private static final int LONGEST_METHOD = 62;
 

@@ -290,7 +290,8 @@ public final class GearEdgesTest {
             x.mesh(4, 0);
             Due.same("it came first now", x.solve(), 3);
         });
-        Due.sentence("Terms", "SPEEDS are those that the latest solve() found (a relation that goes leaves them)", () -> {
+        Due.sentence("Terms",
+                "SPEEDS are those that the latest solve() found (a relation that goes leaves them)", () -> {
             GearDesk x = Desks.withGears(20, 40);
             x.crank(0);
             x.mesh(0, 1);
@@ -497,7 +498,8 @@ public final class GearEdgesTest {
             Due.same("a clash at the first solve()", y.solve(), 0);
             Due.same("no speeds yet", y.count(3), 0);
         });
-        Due.sentence("Terms", "A relation CLASHES, if there are no speeds that fit it, all before it, and the crank", () -> {
+        Due.sentence("Terms",
+                "A relation CLASHES, if there are no speeds that fit it, all before it, and the crank", () -> {
             GearDesk x = Desks.withGears(20, 40, 60, 30);
             x.mesh(1, 2);
             x.inner(1, 2);
@@ -565,7 +567,8 @@ public final class GearEdgesTest {
             Told.speed("short speed", x, last, 1 << 30, 1);
             Due.same("all have speeds", x.count(3), 60);
         });
-        Due.sentence("promise 15", "UnsupportedOperationException, when a speed is too large (one that is determined)", () -> {
+        Due.sentence("promise 15",
+                "UnsupportedOperationException, when a speed is too large (one that is determined)", () -> {
             GearDesk x = Desks.withGears(512, 512);
             x.crank(1);
             Desks.chain(x, 0, 512, 5, 29);
@@ -627,7 +630,8 @@ public final class GearEdgesTest {
             Unchanged.throwing(Due.INDEX, Desks.NEW, "speed(0, 0, 0)", x -> x.speed(0, 0, 0));
             int[][] wrongs = {
                 {-1, 0, 0}, {7, 0, 0}, {MIN, 1, 0}, {MAX, 2, 0}, {0, -1, 0}, {0, 3, 0}, {0, MIN, 0}, {0, MAX, 0},
-                {0, 1, -1}, {0, 1, 8}, {0, 2, -1}, {0, 2, 8}, {0, 1, MIN}, {0, 2, MAX}, {4, 1, 8}, {6, 3, 0}, {5, 2, -1},
+                {0, 1, -1}, {0, 1, 8}, {0, 2, -1}, {0, 2, 8}, {0, 1, MIN}, {0, 2, MAX},
+                {4, 1, 8}, {6, 3, 0}, {5, 2, -1},
             };
             for (int[] w : wrongs) {
                 Unchanged.throwing(Due.INDEX, Desks.BUSY, "speed(" + w[0] + ", " + w[1] + ", " + w[2] + ")",

@@ -1,8 +1,8 @@
 import java.lang.reflect.Method;
+import java.math.BigInteger;
 
 /** For each promise of the document: ordinary inputs, the edges that it names, and wrong inputs. */
 public final class PromisesTest {
-
     private PromisesTest() {
     }
 
@@ -161,7 +161,8 @@ public final class PromisesTest {
     /** As far off from either side and as many teeth, where the least list has the greater products. */
     private static void leastLists(GearDesk x) {
         int[][] tasks = {
-            {263273, 636480, 3, 8, 17}, {19601, 59290, 3, 8, 17}, {87361, 87780, 3, 10, 19}, {465993, 1838720, 3, 9, 18},
+            {263273, 636480, 3, 8, 17}, {19601, 59290, 3, 8, 17}, {87361, 87780, 3, 10, 19},
+            {465993, 1838720, 3, 9, 18},
             {2201, 1296, 4, 12, 16}, {511879, 947700, 4, 8, 13}, {87779, 50400, 4, 8, 14}, {316944, 538265, 4, 12, 16},
         };
         int[][] trains = {
@@ -324,7 +325,8 @@ public final class PromisesTest {
             Due.fails("planet(" + w[0] + ", " + w[1] + ", " + w[2] + ")", Due.INDEX, () -> x.planet(w[0], w[1], w[2]));
         }
         for (int[] w : new int[][] {{0, 0, 1}, {0, 1, 0}, {1, 0, 0}, {2, 2, 2}}) {
-            Due.fails("planet(" + w[0] + ", " + w[1] + ", " + w[2] + ")", Due.ARGUMENT, () -> x.planet(w[0], w[1], w[2]));
+            Due.fails("planet(" + w[0] + ", " + w[1] + ", " + w[2] + ")", Due.ARGUMENT,
+                    () -> x.planet(w[0], w[1], w[2]));
         }
         Due.same("no relation by a wrong call", x.count(1), 0);
         Due.same("planet(0, 1, 2)", x.planet(0, 1, 2), 0);
@@ -500,7 +502,7 @@ public final class PromisesTest {
             for (int i = 0; i < 7; i++) {
                 Due.same("256 bits, word " + i, x.speed(b, 1 + swap, i), 0);
             }
-            Due.same("5 to the 29th, word 0", x.speed(b, 2 - swap, 0), new java.math.BigInteger("5").pow(29).intValue());
+            Due.same("5 to the 29th, word 0", x.speed(b, 2 - swap, 0), BigInteger.valueOf(5).pow(29).intValue());
             int known = x.count(3);
             x.arbor(a, c);
             int d = x.gear(swap == 0 ? 5 : 16);
@@ -530,7 +532,8 @@ public final class PromisesTest {
         x.crank(0);
         for (int[] w : new int[][] {{-1, 0, 0}, {3, 0, 0}, {0, -1, 0}, {0, 3, 0}, {0, 0, 1}, {0, 0, -1}, {0, 1, 8},
             {0, 2, 8}, {0, 1, -1}, {0, 2, -1}, {Integer.MAX_VALUE, 1, 1}}) {
-            Due.fails("speed(" + w[0] + ", " + w[1] + ", " + w[2] + ") before", Due.INDEX, () -> x.speed(w[0], w[1], w[2]));
+            Due.fails("speed(" + w[0] + ", " + w[1] + ", " + w[2] + ") before", Due.INDEX,
+                    () -> x.speed(w[0], w[1], w[2]));
         }
         Due.fails("speed(0, 0, 0) before solve()", Due.STATE, () -> x.speed(0, 0, 0));
         Due.fails("speed(0, 2, 7) before solve()", Due.STATE, () -> x.speed(0, 2, 7));

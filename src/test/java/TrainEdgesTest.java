@@ -350,7 +350,8 @@ public final class TrainEdgesTest {
     }
 
     private static void quotient() {
-        Due.sentence("promise 6", "the whole part, then that of the rest turned over, .. until there is no rest", () -> {
+        Due.sentence("promise 6",
+                "the whole part, then that of the rest turned over, .. until there is no rest", () -> {
             allQuotients(1, 1, 1);
             allQuotients(355, 113, 3, 7, 16);
             allQuotients(113, 355, 0, 3, 7, 16);
