@@ -23,7 +23,6 @@ public final class GearDesk {
 
     private final Trains trains;
     private final Works works;
-    private final Calculator calculator;
     private final Equations equations;
     private final Hands hands;
     private final int[] dialGears;
@@ -35,7 +34,7 @@ public final class GearDesk {
     public GearDesk() {
         trains = new Trains();
         works = new Works();
-        calculator = new Calculator();
+        Calculator calculator = new Calculator();
         equations = new Equations(calculator);
         hands = new Hands(calculator);
         dialGears = new int[DIALS];

@@ -5,6 +5,9 @@ import java.lang.reflect.Method;
 import java.lang.reflect.Modifier;
 import java.nio.file.Files;
 import java.nio.file.Path;
+import java.util.ArrayList;
+import java.util.Comparator;
+import java.util.List;
 import java.util.Map;
 import java.util.TreeMap;
 import java.util.TreeSet;
@@ -61,6 +64,18 @@ public final class FaceTest {
         members();
         source(Path.of(args.length > 0 ? args[0] : "src/main/java/GearDesk.java"));
         Due.end("FaceTest");
+    }
+
+    /** The methods of the face by their names. */
+    static List<Method> methods() {
+        List<Method> methods = new ArrayList<>();
+        for (Method m : GearDesk.class.getMethods()) {
+            if (m.getDeclaringClass() == GearDesk.class) {
+                methods.add(m);
+            }
+        }
+        methods.sort(Comparator.comparing(Method::getName));
+        return methods;
     }
 
     private static void face() {

@@ -1,15 +1,13 @@
 import java.lang.reflect.InvocationTargetException;
 import java.lang.reflect.Method;
-import java.util.ArrayList;
-import java.util.Comparator;
 import java.util.List;
 import java.util.Random;
 
 /** Calls without sense: whatever they are told, a desk answers or throws what the face tells, and nothing else. */
 public final class WildCallsTest {
     private static final int[] EDGES = {
-        Integer.MIN_VALUE, Integer.MIN_VALUE + 1, -1000000, -2, -1, 0, 1, 2, 3, 4, 5, 7, 8, 9, 10, 11, 12, 13, 20, 27, 28,
-        30, 58, 59, 60, 61, 67, 68, 118, 119, 120, 121, 999, 1000, 1001, 99999, 100000, 100001, 1000000, 1000001,
+        Integer.MIN_VALUE, Integer.MIN_VALUE + 1, -1000000, -2, -1, 0, 1, 2, 3, 4, 5, 7, 8, 9, 10, 11, 12, 13, 20, 27,
+        28, 30, 58, 59, 60, 61, 67, 68, 118, 119, 120, 121, 999, 1000, 1001, 99999, 100000, 100001, 1000000, 1000001,
         Integer.MAX_VALUE - 1, Integer.MAX_VALUE,
     };
     private static final int RUNS = 400;
@@ -20,13 +18,7 @@ public final class WildCallsTest {
     }
 
     public static void main(String[] args) throws IllegalAccessException {
-        List<Method> methods = new ArrayList<>();
-        for (Method m : GearDesk.class.getMethods()) {
-            if (m.getDeclaringClass() == GearDesk.class) {
-                methods.add(m);
-            }
-        }
-        methods.sort(Comparator.comparing(Method::getName));
+        List<Method> methods = FaceTest.methods();
         Due.same("methods of the face", methods.size(), 22);
         for (int run = 0; run < RUNS && Due.wrongSoFar() < 20; run++) {
             Random random = new Random(run);
